@@ -220,7 +220,7 @@ public final class DispatchHouse {
         if (way < 0 || way >= WAYS) {
             throw new IllegalArgumentException();
         }
-        return i < world.kinds.rowLength(k) ? world.kinds.inRow(way, k, i) : -1;
+        return i < world.kinds.rowLength[k] ? world.kinds.inRow(way, k, i) : -1;
     }
 
     public int nearer(int m, int n, int a, int b, int c) throws IndexOutOfBoundsException, IllegalArgumentException {
@@ -265,7 +265,8 @@ public final class DispatchHouse {
             case 6:
             case 7:
             case 8:
-                return whole.kindAt(c, what - 6);
+                whole.judge(c);
+                return whole.kindAt[c * MOST_PLACES + what - 6];
             default:
                 throw new IllegalArgumentException();
         }
@@ -339,6 +340,7 @@ public final class DispatchHouse {
     private static final class Kinds {
         final boolean[] bare = new boolean[MOST_KINDS];
         final int[] above = new int[MOST_KINDS];
+        final int[] rowLength = new int[MOST_KINDS];
         final int[] parents = new int[MOST_KINDS];
         int parentCount;
         private final int[] rows = new int[WAYS * MOST_KINDS * MOST_KINDS];
@@ -347,10 +349,6 @@ public final class DispatchHouse {
 
         boolean isBelow(int a, int b) {
             return (above[a] >> b & 1) != 0;
-        }
-
-        int rowLength(int k) {
-            return Integer.bitCount(above[k]);
         }
 
         int inRow(int way, int k, int i) {
@@ -385,13 +383,14 @@ public final class DispatchHouse {
             for (int i = 0; i < parentCount; i++) {
                 above[k] |= above[parents[i]];
             }
+            rowLength[k] = Integer.bitCount(above[k]);
             if (!merge(k)) {
                 return false;
             }
             joinByFirst(k);
             joinByLast(k);
             for (int way = 0; way < WAYS; way++) {
-                for (int i = 0; i < rowLength(k); i++) {
+                for (int i = 0; i < rowLength[k]; i++) {
                     spots[(way * MOST_KINDS + k) * MOST_KINDS + inRow(way, k, i)] = i;
                 }
             }
@@ -405,7 +404,7 @@ public final class DispatchHouse {
         private boolean merge(int k) {
             Arrays.fill(heads, 0);
             putInRow(0, k, 0, k);
-            for (int i = 1; i < rowLength(k); i++) {
+            for (int i = 1; i < rowLength[k]; i++) {
                 int kind = firstFreeHead();
                 if (kind < 0) {
                     return false;
@@ -422,11 +421,11 @@ public final class DispatchHouse {
 
         // the lists of a merge are the parents' rows and, behind them, the row of the parents
         private int listLength(int list) {
-            return list < parentCount ? rowLength(parents[list]) : parentCount;
+            return list < parentCount ? rowLength[parents[list]] : parentCount;
         }
 
         private int inList(int list, int i) {
-            return list < parentCount ? inRow(0, parents[list], i) : parents[i];
+            return list < parentCount ? rows[parents[list] * MOST_KINDS + i] : parents[i];
         }
 
         private int firstFreeHead() {
@@ -457,7 +456,7 @@ public final class DispatchHouse {
             int seen = 1 << k;
             int filled = 1;
             for (int list = 0; list < parentCount; list++) {
-                for (int i = 0; i < rowLength(parents[list]); i++) {
+                for (int i = 0; i < rowLength[parents[list]]; i++) {
                     int kind = inRow(1, parents[list], i);
                     if ((seen >> kind & 1) == 0) {
                         seen |= 1 << kind;
@@ -471,9 +470,9 @@ public final class DispatchHouse {
         private void joinByLast(int k) {
             putInRow(2, k, 0, k);
             int seen = 1 << k;
-            int free = rowLength(k) - 1;
+            int free = rowLength[k] - 1;
             for (int list = parentCount - 1; list >= 0; list--) {
-                for (int i = rowLength(parents[list]) - 1; i >= 0; i--) {
+                for (int i = rowLength[parents[list]] - 1; i >= 0; i--) {
                     int kind = inRow(2, parents[list], i);
                     if ((seen >> kind & 1) == 0) {
                         seen |= 1 << kind;
@@ -582,18 +581,20 @@ public final class DispatchHouse {
     /** The E of the program, from 0 on, and those of the methods behind it, made flat. */
     private static final class Code {
         // no node makes more than three of these, and each E has one more to return
-        static final int ROOM_OF_E = 3 * MOST_NODES + 2;
+        private static final int MOST_OF_E = 3 * MOST_NODES + 1;
+        // nodes are counted in the place behind the last one, too, so that of the program is no method's
+        static final int FIRST_OF_METHODS = MOST_OF_E + 1;
 
-        int[] op = new int[2 * ROOM_OF_E + 1];
-        int[] arg = new int[2 * ROOM_OF_E + 1];
+        int[] op = new int[2 * FIRST_OF_METHODS];
+        int[] arg = new int[2 * FIRST_OF_METHODS];
         /** How many nodes begin just before this is done: those whose first part begins here begin here too. */
-        int[] begins = new int[2 * ROOM_OF_E + 1];
-        int at = ROOM_OF_E;
+        int[] begins = new int[2 * FIRST_OF_METHODS];
+        int at = FIRST_OF_METHODS;
         private int limit;
 
         void open(int start) {
             at = start;
-            limit = start + ROOM_OF_E;
+            limit = start + MOST_OF_E;
             if (limit >= op.length) {
                 int room = Math.max(limit + 1, 2 * op.length);
                 op = Arrays.copyOf(op, room);
@@ -694,7 +695,7 @@ public final class DispatchHouse {
             sizes[CALLS] = 0;
             sizes[LAYERS] = 0;
             methods.told = 0;
-            code.at = Code.ROOM_OF_E;
+            code.at = Code.FIRST_OF_METHODS;
             takeStock();
         }
 
@@ -821,8 +822,8 @@ public final class DispatchHouse {
         static final int NEXT = 52;
 
         // in the order of the numbers above, from KIND on
-        private static final String WORDS = "kind bare call layer method around before behind in if and or not is"
-                + " best sum all any least left each near let then else with without do try on fail show next";
+        private static final String WORDS =
+            "kind bare call layer method around before behind in if and or not is best sum all any least left each near let then else with without do try on fail show next";
         // in the order of the numbers above, from OPEN on
         private static final String MARKS = "(),;:+-*/#=<";
         private static final int LONGEST_NAME = 16;
@@ -1011,7 +1012,8 @@ public final class DispatchHouse {
         }
 
         int readText(byte[] text, int length) {
-            begin(text, length);
+            signs.cut(text, length);
+            begin();
             world.keep();
             for (int turn = 0; turn < signs.size && badPlace < 0 && (turn == 0 || sign() != Signs.END); turn++) {
                 switch (sign()) {
@@ -1041,7 +1043,8 @@ public final class DispatchHouse {
         }
 
         int readProgram(byte[] text, int length) {
-            begin(text, length);
+            signs.cut(text, length);
+            begin();
             int behind = world.code.at;
             inMethod = false;
             ownCall = -1;
@@ -1054,8 +1057,7 @@ public final class DispatchHouse {
             return verdict();
         }
 
-        private void begin(byte[] text, int length) {
-            signs.cut(text, length);
+        private void begin() {
             pos = 0;
             badPlace = -1;
             rulePlace = -1;
@@ -1639,7 +1641,9 @@ public final class DispatchHouse {
         private static final int MOST_CUTS = 2 * MOST_ASKED;
         private static final int SIDE = MOST_PLACES + 1;
         private static final int CELL = SIDE * SIDE;
-        private static final int MOST_TURNS = 100000000;
+        private static final int SIDES = 2;
+        static final int MOST_CELLS = 1000000;
+        private static final int MOST_TURNS = 1000000;
 
         private final World world;
         private final int[] firstCut = new int[MOST_ASKED];
@@ -1721,29 +1725,32 @@ public final class DispatchHouse {
                     level--;
                     return true;
                 }
-                boolean goesOn = false;
-                if (side[level] == 0) {
-                    holding |= 1L << level;
-                    goesOn = tighten(left[level], right[level], bound[level]);
-                } else if (side[level] == 1) {
-                    holding &= ~(1L << level);
-                    goesOn = tighten(right[level], left[level], -bound[level] - 1);
-                } else {
-                    side[level] = -1;
-                }
+                int which = side[level];
                 side[level]++;
-                if (goesOn) {
+                if (which == SIDES) {
+                    level--;
+                } else if (goToSide(which)) {
                     level++;
                     side[level] = 0;
-                } else if (side[level] == 0) {
-                    level--;
                 }
             }
             return false;
         }
 
-        /** Makes the limits of the next level of those of this one and of a bound more: whether numbers are left. */
-        private boolean tighten(int i, int j, long most) {
+        /** Goes to the side of a cut where it holds (0), or to the other one: whether numbers are left there. */
+        private boolean goToSide(int which) {
+            long bit = 1L << level;
+            int i = left[level];
+            int j = right[level];
+            long most = bound[level];
+            if (which == 0) {
+                holding |= bit;
+            } else {
+                holding &= ~bit;
+                i = right[level];
+                j = left[level];
+                most = -most - 1;
+            }
             int from = level * CELL;
             int to = from + CELL;
             if (limits[from + j * SIDE + i] + most < 0) {
@@ -1751,8 +1758,9 @@ public final class DispatchHouse {
             }
             for (int a = 0; a < SIDE; a++) {
                 for (int b = 0; b < SIDE; b++) {
+                    long known = limits[from + a * SIDE + b];
                     long through = limits[from + a * SIDE + i] + most + limits[from + j * SIDE + b];
-                    limits[to + a * SIDE + b] = Math.min(limits[from + a * SIDE + b], through);
+                    limits[to + a * SIDE + b] = through < known ? through : known;
                 }
             }
             return true;
@@ -1846,7 +1854,7 @@ public final class DispatchHouse {
             boolean mAlone = false;
             boolean nAlone = false;
             space.begin();
-            while (!(mAlone && nAlone) && space.toNextCell()) {
+            for (int cell = 0; cell < Space.MOST_CELLS && !(mAlone && nAlone) && space.toNextCell(); cell++) {
                 boolean takenByM = space.isTakenBy(m, mFirst);
                 boolean takenByN = space.isTakenBy(n, nFirst);
                 mAlone = mAlone || takenByM && !takenByN;
@@ -1918,6 +1926,7 @@ public final class DispatchHouse {
                 emptySet();
                 for (int i = 0; i < world.makeableCount; i++) {
                     int at = p * MOST_KINDS + world.makeable[i];
+                    makeRoomInSet();
                     addToSet(liveFirst[c] & world.fitFirst[at], liveSecond[c] & world.fitSecond[at]);
                 }
                 cells *= setSize;
@@ -2038,6 +2047,7 @@ public final class DispatchHouse {
                             second &= world.fitSecond[ORDERS[o + n] * MOST_KINDS + kind];
                         }
                         if (asked == world.places[c] || matters(c, ORDERS[o + asked], first, second)) {
+                            makeRoomInSet();
                             addToSet(first, second);
                         }
                     }
@@ -2052,9 +2062,6 @@ public final class DispatchHouse {
         }
 
         private void addToSet(long first, long second) {
-            if (2 * setSize >= setMark.length) {
-                widenSet();
-            }
             int spot = spotFor(first, second);
             if (setMark[spot] != mark) {
                 setMark[spot] = mark;
@@ -2078,7 +2085,10 @@ public final class DispatchHouse {
             return spot;
         }
 
-        private void widenSet() {
+        private void makeRoomInSet() {
+            if (2 * setSize < setMark.length) {
+                return;
+            }
             long[] oldFirst = setFirst;
             long[] oldSecond = setSecond;
             int[] oldMark = setMark;
@@ -2106,7 +2116,8 @@ public final class DispatchHouse {
         private final Space space;
         private final int[] judged = new int[MOST_CALLS];
         private final int[] answer = new int[MOST_CALLS];
-        private final int[] kindAt = new int[MOST_CALLS * MOST_PLACES];
+        /** The kinds of the row for which a call was judged not to be whole; -1 where there is none. */
+        final int[] kindAt = new int[MOST_CALLS * MOST_PLACES];
         private final int[] at = new int[MOST_PLACES];
         private final int[] fitting = new int[MOST_METHODS];
         private final int[] firstAsked = new int[MOST_METHODS];
@@ -2123,45 +2134,36 @@ public final class DispatchHouse {
         int judge(int c) {
             if (judged[c] != world.version) {
                 judged[c] = world.version;
-                answer[c] = judgeRows(c);
-                boolean isFound = answer[c] > 0;
-                for (int p = 0; p < MOST_PLACES; p++) {
-                    kindAt[c * MOST_PLACES + p] = isFound && p < world.places[c] ? at[p] : -1;
+                int rows = 1;
+                for (int p = 0; p < world.places[c]; p++) {
+                    rows *= world.makeableCount;
                 }
+                answer[c] = 0;
+                int asking = 0;
+                for (int row = 0; row < rows && answer[c] == 0; row++) {
+                    goToRow(row, world.places[c]);
+                    int asked = gatherFitting(c);
+                    asking += asked > 0 ? 1 : 0;
+                    boolean isPassedOver = asked > MOST_ASKED || asked > 0 && asking > MOST_ROWS;
+                    answer[c] = isPassedOver ? -1 : judgeRow(c);
+                }
+                keepKinds(c);
             }
             return answer[c];
         }
 
-        int kindAt(int c, int p) {
-            judge(c);
-            return kindAt[c * MOST_PLACES + p];
+        private void goToRow(int row, int places) {
+            int left = row;
+            for (int p = places - 1; p >= 0 && world.makeableCount > 0; p--) {
+                at[p] = world.makeable[left % world.makeableCount];
+                left /= world.makeableCount;
+            }
         }
 
-        private int judgeRows(int c) {
-            int rows = 1;
-            for (int p = 0; p < world.places[c]; p++) {
-                rows *= world.makeableCount;
+        private void keepKinds(int c) {
+            for (int p = 0; p < MOST_PLACES; p++) {
+                kindAt[c * MOST_PLACES + p] = answer[c] > 0 && p < world.places[c] ? at[p] : -1;
             }
-            int asking = 0;
-            for (int row = 0; row < rows; row++) {
-                int left = row;
-                for (int p = world.places[c] - 1; p >= 0 && world.makeableCount > 0; p--) {
-                    at[p] = world.makeable[left % world.makeableCount];
-                    left /= world.makeableCount;
-                }
-                int asked = gatherFitting(c);
-                if (asked > 0) {
-                    asking++;
-                }
-                if (asked > MOST_ASKED || asked > 0 && asking > MOST_ROWS) {
-                    return -1;
-                }
-                int found = judgeRow(c);
-                if (found != 0) {
-                    return found;
-                }
-            }
-            return 0;
         }
 
         /** Gathers the plain ones without layers that fit the row: how much they ask together. */
@@ -2193,7 +2195,7 @@ public final class DispatchHouse {
             }
             int worst = 0;
             space.begin();
-            while (space.toNextCell()) {
+            for (int cell = 0; cell < Space.MOST_CELLS && space.toNextCell(); cell++) {
                 applyingCount = 0;
                 for (int i = 0; i < fittingCount; i++) {
                     if (space.isTakenBy(fitting[i], firstAsked[i])) {
@@ -2421,8 +2423,8 @@ public final class DispatchHouse {
      * are on are a long too, four bits each, the one put on last in the lowest.
      */
     private static final class Machine {
-        private static final int MOST_TURNS = 100000000;
-        private static final int STACK_ROOM = 4096;
+        private static final int MOST_TURNS = 10000000;
+        private static final int STACK_ROOM = 2048;
         // a try keeps on the stack: the layers, the depth, where to go on, and the try around it
         private static final int TRY_ROOM = 4;
 
@@ -2448,6 +2450,7 @@ public final class DispatchHouse {
         private int depth;
         private int goOn;
         private int lastTry;
+        private int fault;
         private long layers;
         int ended = -1;
         boolean hasValue;
@@ -2479,20 +2482,33 @@ public final class DispatchHouse {
                 if (now < 0 || now >= code.op.length || steps + code.begins[now] > fuel) {
                     steps = fuel;
                     finish(4, false, 0L);
-                } else {
-                    steps += code.begins[now];
-                    goOn = now + 1;
-                    if (code.op[now] == OP_CALL) {
-                        int c = code.arg[now];
-                        takeGiven(world.places[c]);
-                        if (chooser.choose(c, given, depth + 1, layers)) {
-                            beginCall();
-                        } else {
-                            fault(1);
-                        }
-                    } else {
-                        obey(code.op[now], code.arg[now]);
-                    }
+                    return;
+                }
+                steps += code.begins[now];
+                goOn = now + 1;
+                int op = code.op[now];
+                int arg = code.arg[now];
+                switch (op) {
+                    case OP_CALL:
+                        takeGiven(world.places[arg]);
+                        beginCall(chooser.choose(arg, given, depth + 1, layers));
+                        break;
+                    case OP_NEXT:
+                    case OP_NEXT_WITH:
+                        goToNext(op == OP_NEXT_WITH);
+                        break;
+                    case OP_RETURN:
+                        endMethod(pop());
+                        break;
+                    case OP_FAIL:
+                        failWith(pop());
+                        break;
+                    default:
+                        obey(op, arg);
+                        break;
+                }
+                if (fault != 0) {
+                    failWith(valueOf(FAULT_KIND, fault));
                 }
             }
         }
@@ -2504,6 +2520,7 @@ public final class DispatchHouse {
             depth = 0;
             goOn = 0;
             lastTry = -1;
+            fault = 0;
             layers = 0L;
             ended = -1;
             steps = 0;
@@ -2568,18 +2585,8 @@ public final class DispatchHouse {
                 case OP_TRIED:
                     endTry(arg);
                     break;
-                case OP_FAIL:
-                    failWith(pop());
-                    break;
                 case OP_SHOW:
                     showTop();
-                    break;
-                case OP_NEXT:
-                case OP_NEXT_WITH:
-                    goToNext(op == OP_NEXT_WITH);
-                    break;
-                case OP_RETURN:
-                    endMethod(pop());
                     break;
                 default:
                     reckon(op, arg);
@@ -2619,7 +2626,7 @@ public final class DispatchHouse {
                     int right = (int) pop();
                     int left = (int) pop();
                     if (op == OP_DIVIDE && right == 0) {
-                        fault(3);
+                        fault = 3;
                     } else {
                         push(valueOf(INT_KIND, joinTwo(op, left, right)));
                     }
@@ -2674,11 +2681,8 @@ public final class DispatchHouse {
             goOn = behind;
         }
 
-        private void fault(int number) {
-            failWith(valueOf(FAULT_KIND, number));
-        }
-
         private void failWith(long what) {
+            fault = 0;
             if (lastTry < 0 || lastTry + TRY_ROOM > STACK_ROOM) {
                 finish(1, true, what);
                 return;
@@ -2695,12 +2699,14 @@ public final class DispatchHouse {
             return (int) frames[frame * FRAME_ROOM + what];
         }
 
-        private void beginCall() {
+        private void beginCall(boolean isPlainThere) {
             int home = depth + 1;
-            if (chooser.rowSize(home, AROUND_ROLE) > 0) {
+            if (!isPlainThere) {
+                fault = 1;
+            } else if (chooser.rowSize(home, AROUND_ROLE) > 0) {
                 beginMethod(home, AROUND_ROLE, 0, goOn, false);
             } else if (chooser.endsWithSeveral(home, AROUND_ROLE)) {
-                fault(2);
+                fault = 2;
             } else {
                 beginInside(home, goOn);
             }
@@ -2708,7 +2714,7 @@ public final class DispatchHouse {
 
         private void beginMethod(int home, int role, int spot, int back, boolean isInside) {
             if (depth >= MOST_DEPTH) {
-                fault(4);
+                fault = 4;
                 return;
             }
             int m = chooser.inRow(home, role, spot);
@@ -2740,13 +2746,13 @@ public final class DispatchHouse {
             int home = inFrame(depth, HOME);
             int spot = inFrame(depth, SPOT) + 1;
             if (role != AROUND_ROLE && (role != PLAIN || world.join[c] != JOIN_BEST)) {
-                fault(1);
+                fault = 1;
             } else if (spot < chooser.rowSize(home, role)) {
                 beginMethod(home, role, spot, goOn, false);
             } else if (chooser.endsWithSeveral(home, role)) {
-                fault(2);
+                fault = 2;
             } else if (role == PLAIN) {
-                fault(1);
+                fault = 1;
             } else {
                 beginInside(home, goOn);
             }
@@ -2755,7 +2761,7 @@ public final class DispatchHouse {
         // the state of an INSIDE is in the frame in which the methods that it runs will be, one behind the other
         private void beginInside(int home, int back) {
             if (chooser.rowSize(home, PLAIN) == 0) {
-                fault(2);
+                fault = 2;
                 return;
             }
             int frame = (depth + 1) * FRAME_ROOM;
@@ -2822,7 +2828,7 @@ public final class DispatchHouse {
             int frame = inner * FRAME_ROOM;
             int number = (int) what;
             int before = inFrame(inner, JOINED);
-            int all = inFrame(inner, TURN);
+            boolean isSettled = false;
             long joined = what;
             switch (world.join[world.methods.call[inFrame(inner, METHOD)]]) {
                 case JOIN_SUM:
@@ -2833,18 +2839,20 @@ public final class DispatchHouse {
                     break;
                 case JOIN_ALL:
                     joined = valueOf(INT_KIND, number == 0 ? 0 : 1);
-                    all = number == 0 ? MOST_METHODS : all;
+                    isSettled = number == 0;
                     break;
                 case JOIN_ANY:
                     joined = valueOf(INT_KIND, number == 0 ? 0 : 1);
-                    all = number == 0 ? all : MOST_METHODS;
+                    isSettled = number != 0;
                     break;
                 default:
                     break;
             }
             frames[frame + JOINED] = joined;
-            // where an answer is settled no further plain ones run: their turns are over
-            frames[frame + TURN] = all;
+            if (isSettled) {
+                // no further plain ones run: their turns are over
+                frames[frame + TURN] = MOST_METHODS;
+            }
         }
     }
 }
