@@ -11,9 +11,12 @@ final class TextMaker {
     private final List<Integer> places = new ArrayList<>();
     private final List<String> layers = new ArrayList<>();
     private int names;
+    private final int loose;
 
     TextMaker(long seed) {
         chance = new Random(seed);
+        // how many of eight SPECS say no kind: where many don't, methods differ by what they ask alone
+        loose = 2 + 2 * (int) Math.floorMod(seed, 3L);
         forget();
     }
 
@@ -64,6 +67,12 @@ final class TextMaker {
             text.append("call ").append(name).append("(").append(n).append(") ")
                 .append(oneOf("best best best sum all any least")).append(" ").append(oneOf("left each near")).append(";\n");
         }
+        for (int i = calls.size() - callCount; i < calls.size(); i++) {
+            if (oneIn(2)) {
+                text.append("method ").append(calls.get(i)).append("(").append("x, y, z", 0, 3 * places.get(i) - 2).append(") = ")
+                    .append(e(new ArrayList<>(List.of("x")), 3, i)).append(";\n");
+            }
+        }
         for (int i = 0; i < methodCount && !calls.isEmpty(); i++) {
             text.append(method());
         }
@@ -96,7 +105,7 @@ final class TextMaker {
     }
 
     private String number() {
-        return oneIn(40) ? oneOf("2147483647 -2147483647 007 1000000") : String.valueOf(chance.nextInt(5) - 2);
+        return oneIn(40) ? oneOf("2147483647 -2147483647 002 1000000") : String.valueOf(chance.nextInt(5) - 2);
     }
 
     private String method() {
@@ -108,7 +117,7 @@ final class TextMaker {
             String name = oneIn(100) ? "x" : "xyzw".substring(p, p + 1);
             variables.add(name);
             text.append(p == 0 ? "" : ", ").append(name);
-            if (!oneIn(4)) {
+            if (chance.nextInt(8) >= loose) {
                 text.append(": ").append(oneIn(300) ? "Kx" : oneOf(kinds));
             }
             if (oneIn(6)) {
@@ -117,7 +126,7 @@ final class TextMaker {
         }
         text.append(")");
         if (oneIn(3)) {
-            text.append(oneOf(" around- before- behind-".replace("-", "")).isEmpty() ? "" : " " + oneOf("around before behind"));
+            text.append(" ").append(oneOf("around before behind"));
         }
         if (oneIn(4) && !layers.isEmpty()) {
             text.append(" in ").append(oneOf(layers));
