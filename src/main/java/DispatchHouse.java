@@ -733,8 +733,8 @@ public final class DispatchHouse {
         }
 
         private void takeStockOf(int m) {
-            long first = firstBit(m);
-            long second = secondBit(m);
+            long first = m <= 64 ? 1L << (m - 1) : 0L;
+            long second = m <= 64 ? 0L : 1L << (m - 65);
             int c = methods.call[m];
             callFirst[c] |= first;
             callSecond[c] |= second;
@@ -748,16 +748,28 @@ public final class DispatchHouse {
             }
         }
 
-        static long firstBit(int m) {
-            return m <= 64 ? 1L << (m - 1) : 0L;
-        }
-
-        static long secondBit(int m) {
-            return m <= 64 ? 0L : 1L << (m - 65);
-        }
-
         int methodsOf(int c) {
             return Long.bitCount(callFirst[c]) + Long.bitCount(callSecond[c]);
+        }
+
+        /** The LIST for these kinds, put into a row: how many methods it has. */
+        int listFor(int c, int[] at, int[] into) {
+            long first = callFirst[c];
+            long second = callSecond[c];
+            for (int p = 0; p < places[c]; p++) {
+                first &= fitFirst[p * MOST_KINDS + at[p]];
+                second &= fitSecond[p * MOST_KINDS + at[p]];
+            }
+            int found = 0;
+            for (int half = 0; half < 2; half++) {
+                long left = half == 0 ? first : second;
+                for (int turn = 0; turn < 64 && left != 0 && found < into.length; turn++) {
+                    into[found] = 64 * half + 1 + Long.numberOfTrailingZeros(left);
+                    found++;
+                    left &= left - 1;
+                }
+            }
+            return found;
         }
 
         boolean fits(int m, int[] at) {
@@ -2168,18 +2180,13 @@ public final class DispatchHouse {
 
         /** Gathers the plain ones without layers that fit the row: how much they ask together. */
         private int gatherFitting(int c) {
-            long first = world.callFirst[c];
-            long second = world.callSecond[c];
-            for (int p = 0; p < world.places[c]; p++) {
-                first &= world.fitFirst[p * MOST_KINDS + at[p]];
-                second &= world.fitSecond[p * MOST_KINDS + at[p]];
-            }
             Methods methods = world.methods;
+            int all = world.listFor(c, at, fitting);
             int asked = 0;
             fittingCount = 0;
-            for (int m = 1; m <= methods.told; m++) {
-                boolean isFitting = (first & World.firstBit(m)) != 0 || (second & World.secondBit(m)) != 0;
-                if (isFitting && methods.role[m] == PLAIN && methods.layer[m] < 0) {
+            for (int i = 0; i < all; i++) {
+                int m = fitting[i];
+                if (methods.role[m] == PLAIN && methods.layer[m] < 0) {
                     fitting[fittingCount] = m;
                     fittingCount++;
                     asked += methods.asked(m);
@@ -2301,17 +2308,12 @@ public final class DispatchHouse {
         }
 
         private boolean gatherApplying(int c, long[] given, long layers) {
-            long first = world.callFirst[c];
-            long second = world.callSecond[c];
-            for (int p = 0; p < world.places[c]; p++) {
-                first &= world.fitFirst[p * MOST_KINDS + at[p]];
-                second &= world.fitSecond[p * MOST_KINDS + at[p]];
-            }
+            int all = world.listFor(c, at, applying);
             boolean isPlain = false;
             applyingCount = 0;
-            for (int m = 1; m <= world.methods.told; m++) {
-                boolean isFitting = (first & World.firstBit(m)) != 0 || (second & World.secondBit(m)) != 0;
-                if (isFitting && isOn(world.methods.layer[m], layers) && takes(m, given)) {
+            for (int i = 0; i < all; i++) {
+                int m = applying[i];
+                if (isOn(world.methods.layer[m], layers) && takes(m, given)) {
                     applying[applyingCount] = m;
                     applyingCount++;
                     isPlain = isPlain || world.methods.role[m] == PLAIN;

@@ -248,10 +248,30 @@ final class TextMaker {
         return all.toString();
     }
 
+    /** Puts one name of a text in the place of another one, or a declaration once more. */
+    private String mixUp(String text) {
+        List<int[]> found = new ArrayList<>();
+        java.util.regex.Matcher names = java.util.regex.Pattern.compile("\\b(K[0-9]+|f[0-9]+|L[0-9]+|Any|Int|Fault|[xyzw])\\b").matcher(text);
+        while (names.find()) {
+            found.add(new int[] {names.start(), names.end()});
+        }
+        if (found.isEmpty() || oneIn(4)) {
+            int from = text.lastIndexOf(';', chance.nextInt(text.length())) + 1;
+            int till = text.indexOf(';', from) + 1;
+            return till > 0 ? text.substring(0, till) + text.substring(from, till) + text.substring(till) : text;
+        }
+        int[] one = oneOf(found);
+        int[] other = oneOf(found);
+        return text.substring(0, one[0]) + text.substring(other[0], other[1]) + text.substring(one[1]);
+    }
+
     /** Spoils a text at one place. */
     String spoil(String text) {
         if (text.isEmpty()) {
             return "x";
+        }
+        if (oneIn(2)) {
+            return mixUp(text);
         }
         int at = chance.nextInt(text.length());
         int till = Math.min(text.length(), at + chance.nextInt(4));
