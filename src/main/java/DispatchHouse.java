@@ -838,6 +838,8 @@ public final class DispatchHouse {
             "kind bare call layer method around before behind in if and or not is best sum all any least left each near let then else with without do try on fail show next";
         // in the order of the numbers above, from OPEN on
         private static final String MARKS = "(),;:+-*/#=<";
+        private static final int SHORTEST_WORD = 2;
+        private static final int LONGEST_WORD = 7;
         private static final int LONGEST_NAME = 16;
         private static final int NAME_HEAD = 10;
 
@@ -970,6 +972,9 @@ public final class DispatchHouse {
         }
 
         private static int wordOrName(byte[] text, int at, int length) {
+            if (length < SHORTEST_WORD || length > LONGEST_WORD) {
+                return NAME;
+            }
             int start = 0;
             int word = KIND;
             for (int i = 0; i <= WORDS.length(); i++) {

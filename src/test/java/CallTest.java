@@ -16,6 +16,7 @@ public final class CallTest {
         wholePassedOver();
         wholeByWays();
         manyRows();
+        manyMethods();
         wrongCalls();
         CHECK.done();
     }
@@ -104,6 +105,10 @@ public final class CallTest {
         looksOf("g(1)", 4, 1, 2, 2);
         looksOf("7", 0, 0, 0, 0);
         CHECK.house().drop(5);
+        // both orders have two nodes: the first place is asked first
+        CHECK.tell("call h(2) best left; method h(x: A, y: A) = 1;");
+        looksOf("try h(1, A(1)) on x do 1", 1, 1, 3, 2);
+        looksOf("try h(A(1), 1) on x do 1", 1, 1, 3, 3);
         looksOf("g(1)", 3, 1, 2, 2);
         looksOf("g(g(1))", 6, 2, 4, 4);
     }
@@ -226,12 +231,50 @@ public final class CallTest {
         whole(-1, -1, -1, -1);
         CHECK.tell("call h(2) best left; method h(x: Int, y) if x < y or y <= x = 1; method h(x: Fault, y) = 1;");
         whole(1, 3, 1, -1);
-        for (int i = 13; i < 21; i++) {
+        for (int i = 13; i < 18; i++) {
+            CHECK.tell("kind K" + i + ";");
+        }
+        // ten of 20 makeable kinds ask, so there are 200 rows that ask
+        CHECK.tell("call exact(2) best left; method exact(x, y) = 1;");
+        for (int i = 0; i < 10; i++) {
+            CHECK.tell("method exact(x: K" + i + ", y) if x < y = 1;");
+        }
+        whole(0, -1, -1, -1);
+        CHECK.tell("method exact(x: Int, y: Int) if x < y = 1;");
+        whole(-1, -1, -1, -1);
+        CHECK.house().drop(CHECK.house().count(2));
+        whole(0, -1, -1, -1);
+        for (int i = 18; i < 21; i++) {
             CHECK.tell("kind K" + i + ";");
         }
         CHECK.tell("call k(3) best left; method k(x, y, z) = 1; method k(x: K20, y: K20, z: K20) if x < y = 1;");
-        told(3, 2, 2, 23 * 23 * 23, 8, 3, 0);
+        told(4, 2, 2, 23 * 23 * 23, 8, 3, 0);
         CHECK.due("kinds", CHECK.house().count(0), 24);
+    }
+
+    /** Sets of methods are kept in two parts: these reach into the second one. */
+    private static void manyMethods() {
+        CHECK.anew();
+        StringBuilder text = new StringBuilder("call f(1) sum left; call g(2) best left; kind A; kind B < A; kind C < B;");
+        for (int i = 0; i < 100; i++) {
+            text.append("method f(x: ").append(i < 60 ? "Int" : i < 70 ? "A" : i < 80 ? "B" : "C").append(" == ").append(i % 30)
+                .append(") ").append(i < 30 ? "before" : "").append(" = 1;");
+        }
+        CHECK.tell(text.toString());
+        // Int, Fault, A, B and C have 60, 0, 10, 20 and 40 methods
+        told(0, 100, 5, 5, 5, 1, -1);
+        CHECK.gives("f(7)", 1);
+        CHECK.ran(8, 38);
+        // methods 61 to 70 ask A of 0 to 9, 81 to 100 ask C of 20 to 29 and 0 to 9
+        CHECK.gives("f(C(5))", 2);
+        CHECK.ran(96, 66);
+        CHECK.tell("method g(x: A, y) = 1; method g(x: B, y: A) = 2; method g(x, y) = 3; method g(x, y: C) = 4;");
+        // groups are Int and Fault, A, B and C by the first place, Int and Fault, A and B, C by the second
+        told(1, 4, 6, 25, 9, 4, 0);
+        CHECK.gives("g(B(1), C(1)) * 1000 + g(B(1), 1) * 100 + g(1, C(1)) * 10 + g(1, 1)", 2143);
+        CHECK.due("drop", CHECK.house().drop(102), true);
+        CHECK.gives("g(B(1), C(1))", 1);
+        told(1, 3, 4, 25, 4, 3, 0);
     }
 
     private static void wrongCalls() {

@@ -14,6 +14,7 @@ public final class KindsAndNearerTest {
         nearerByAsking();
         nearerAtTheEndsOfInt();
         nearerByKindsAsked();
+        nearerAnew();
         nearerThrows();
         CHECK.done();
     }
@@ -241,6 +242,15 @@ public final class KindsAndNearerTest {
         nearer(-1, 1, 3, 1, 0, 0);
         nearer(0, 2, 3, 4, 0, 0);
         nearer(-1, 4, 1, 4, 0, 0);
+    }
+
+    private static void nearerAnew() {
+        DispatchHouse house = CHECK.anew();
+        CHECK.tell("call f(1) best left; method f(x) if x < 1 = 1; method f(x) if x < 2 = 1;");
+        nearer(-1, 1, 2, 1, 0, 0);
+        house.clear();
+        CHECK.tell("call f(1) best left; method f(x) if x < 2 = 1; method f(x) if x < 1 = 1;");
+        nearer(1, 1, 2, 1, 0, 0);
     }
 
     private static void nearerThrows() {

@@ -14,6 +14,7 @@ public final class RunTest {
         joined();
         layers();
         layersInRows();
+        eightLayers();
         layersComeBack();
         methodsInOneAnother();
         tests();
@@ -287,6 +288,10 @@ public final class RunTest {
         CHECK.gives("v(A(0), A(0))", 15);
         CHECK.showed(4, 1, 2, 8);
         CHECK.faults("all1(0) + w(1 / 0)", 3);
+        // the third is nearer than the second, the first has no order with them
+        CHECK.tell("kind B < A; call u(2) sum each; method u(x, y: B) = show 1; method u(x: A, y) = show 2; method u(x: B, y) = show 4;");
+        CHECK.gives("u(B(0), B(0))", 7);
+        CHECK.showed(1, 4, 2);
     }
 
     private static void layers() {
@@ -343,6 +348,20 @@ public final class RunTest {
         CHECK.gives("h(0)", 1);
         CHECK.gives("with L do h(0)", 11);
         CHECK.ran(16, 15, 14, 13);
+    }
+
+    private static void eightLayers() {
+        CHECK.anew();
+        CHECK.tell("call f(1) best left; method f(x) = 1;");
+        for (int i = 1; i <= 8; i++) {
+            CHECK.tell("layer L" + i + "; method f(x) in L" + i + " = next * 3 + " + i + ";");
+        }
+        // the last one put on is the outermost
+        CHECK.gives("with L1 do with L2 do with L3 do with L4 do with L5 do with L6 do with L7 do with L8 do f(0)", 11477);
+        CHECK.ran(9, 8, 7, 6, 5, 4, 3, 2, 1);
+        CHECK.tell("call g(1) best left; method g(x) = with L1 do f(x);");
+        CHECK.gives("with L1 do with L2 do with L3 do with L4 do with L5 do with L6 do with L7 do with L8 do g(0)", 14749);
+        CHECK.ran(10, 2, 9, 8, 7, 6, 5, 4, 3, 1);
     }
 
     private static void layersComeBack() {

@@ -50,6 +50,8 @@ public final class TellTest {
         CHECK.programWrong(1, "1 < ^= 2");
         CHECK.gives("1<=2", 1);
         CHECK.programWrong(1, "1 ^= = 2");
+        CHECK.programWrong(1, "1<=^");
+        CHECK.programWrong(1, "1==^");
         CHECK.programWrong(1, "12^ab");
         CHECK.programWrong(3, "^ab12");
     }
@@ -189,6 +191,15 @@ public final class TellTest {
         CHECK.programWrong(1, times(12, "show ") + "^");
         CHECK.programWrong(1, "f(f(f(f(f(f(^1))))))");
         CHECK.program("f(f(f(f(f(1)))))");
+        CHECK.tell("layer L;");
+        String[] forms = {"if #1 then 2 else 3", "if 1 then #2 else 3", "if 1 then 2 else #3", "let x = #1 then x", "let x = 1 then #x",
+            "with L do #1", "without L do #1", "try #1 on x do x", "try 1 on x do #x", "fail #1", "show #1", "f(1)", "(1) + (1)"};
+        for (String form : forms) {
+            CHECK.program(times(8, "show ") + form);
+            String deeper = times(9, "show ") + form;
+            int at = Math.max(deeper.indexOf('#'), deeper.indexOf("(1")) + 1;
+            CHECK.programWrong(1, deeper.substring(0, at) + "^" + deeper.substring(at));
+        }
         CHECK.tell("method f(x) = " + times(5, "(") + "1" + times(5, ")") + " + " + times(5, "(") + "1" + times(5, ")") + ";");
         CHECK.tell("method f(x) if " + times(11, "not ") + "x < 1 = 1;");
         CHECK.tellWrong(1, "method f(x) if " + times(12, "not ") + "^x < 1 = 1;");
@@ -272,6 +283,10 @@ public final class TellTest {
         CHECK.tellWrong(4, "method g(x, y) = next(f(1), f(f(2), ^3));");
         CHECK.tell("method g(x, y) = next(x, y) + f(x) + A(y);");
         CHECK.programWrong(4, "g(f(1)^)");
+        CHECK.anew();
+        CHECK.tell(G);
+        CHECK.tellWrong(4, "method g(x^) = 1;");
+        CHECK.tellWrong(4, "method g(x, y) = next(1^);");
     }
 
     private static void rows() {

@@ -79,6 +79,28 @@ final class TextMaker {
         return text.toString();
     }
 
+    /** Many kinds, one call of two places and many short methods. */
+    String large() {
+        StringBuilder text = new StringBuilder();
+        for (int i = 0; i < 15; i++) {
+            text.append(kind());
+        }
+        String name = "f" + names++;
+        calls.add(name);
+        places.add(2);
+        text.append("call ").append(name).append("(2) ").append(oneOf("best sum least")).append(" ")
+            .append(oneOf("left each near")).append("; method ").append(name).append("(x, y) = x;\n");
+        java.util.Set<String> told = new java.util.HashSet<>();
+        for (int i = 0; i < 70 + below(40); i++) {
+            String specs = "(x: " + oneOf(kinds) + ", y: " + oneOf(kinds) + (oneIn(4) ? "== " + below(3) : "") + ")"
+                + oneOf("- - - around before behind").replace("-", "");
+            if (told.add(specs)) {
+                text.append("method ").append(name).append(specs).append("=").append(oneOf("next show(x) 1 y+2 next+1")).append(";");
+            }
+        }
+        return text.toString();
+    }
+
     private String kind() {
         String name = "K" + names++;
         StringBuilder text = new StringBuilder("kind " + name);
