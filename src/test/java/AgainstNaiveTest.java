@@ -7,7 +7,7 @@ import java.util.Map;
 
 /** Texts and programs made by chance (from fixed seeds), of which both houses have to tell the same. */
 public final class AgainstNaiveTest {
-    private static final int WORLDS = 500;
+    private static final int WORLDS = 300;
 
     private final Map<String, Method> ours = methodsOf(DispatchHouse.class);
     private final Map<String, Method> theirs = methodsOf(NaiveHouse.class);

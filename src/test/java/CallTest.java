@@ -17,6 +17,7 @@ public final class CallTest {
         wholeByWays();
         manyRows();
         manyMethods();
+        droppedOfMany();
         wrongCalls();
         CHECK.done();
     }
@@ -272,6 +273,29 @@ public final class CallTest {
         // groups are Int and Fault, A, B and C by the first place, Int and Fault, A and B, C by the second
         told(1, 4, 6, 25, 9, 4, 0);
         CHECK.gives("g(B(1), C(1)) * 1000 + g(B(1), 1) * 100 + g(1, C(1)) * 10 + g(1, 1)", 2143);
+        // whole halves of the sets fit
+        text = new StringBuilder("call h(1) best left;");
+        CHECK.anew();
+        for (int i = 1; i <= 120; i++) {
+            text.append("method h(x == ").append(i).append(") = #x;");
+        }
+        CHECK.tell(text.toString());
+        told(0, 120, 1, 2, 1, 0, -1);
+        for (int i : new int[] {1, 2, 63, 64, 65, 66, 119, 120}) {
+            CHECK.gives("h(" + i + ")", i);
+            CHECK.ran(i);
+        }
+    }
+
+    private static void droppedOfMany() {
+        CHECK.anew();
+        CHECK.tell("kind A; kind B < A; kind C < B; call f(1) best left; call g(2) best left;");
+        StringBuilder text = new StringBuilder();
+        for (int i = 1; i <= 100; i++) {
+            text.append("method f(x == ").append(i).append(") = 1;");
+        }
+        CHECK.tell(text + "method g(x: A, y) = 1; method g(x: B, y: A) = 2; method g(x, y) = 3; method g(x, y: C) = 4;");
+        CHECK.gives("g(B(1), C(1))", 2);
         CHECK.due("drop", CHECK.house().drop(102), true);
         CHECK.gives("g(B(1), C(1))", 1);
         told(1, 3, 4, 25, 4, 3, 0);

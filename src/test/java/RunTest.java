@@ -134,6 +134,9 @@ public final class RunTest {
         CHECK.gives("let x = 5 then (try fail 1 on x do x) + x", 6);
         CHECK.gives("1 + (try 2 + f(3) on x do x) + 4", 8);
         CHECK.gives("try 3 on x do 4", 3);
+        CHECK.gives("1 + (try 2 on x do 3) * 10 + 4", 25);
+        CHECK.gives("try (try 1 on x do 2) + (fail 3) on y do y + 4", 7);
+        CHECK.run("(try 1 on x do 2) + (fail 3)", 1, 1, 3);
         CHECK.run("fail fail A(2)", 1, 3, 2);
         CHECK.run("show fail A(2)", 1, 3, 2);
         CHECK.showed();

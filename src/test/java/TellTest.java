@@ -54,6 +54,18 @@ public final class TellTest {
         CHECK.programWrong(1, "1==^");
         CHECK.programWrong(1, "12^ab");
         CHECK.programWrong(3, "^ab12");
+        String name = "aaaaaaaaaaaaaaaa";
+        for (int i = 0; i < name.length(); i++) {
+            for (char c : new char[] {'b', 'q', 'A', 'Z', '_', '9'}) {
+                String other = name.substring(0, i) + c + name.substring(i + 1);
+                if (i > 0 || c != '9') {
+                    CHECK.gives("let " + name + " = 1 then let " + other + " = 2 then " + name, 1);
+                    CHECK.anew();
+                }
+            }
+            String shorter = name.substring(0, i + 1);
+            CHECK.programWrong(i < 15 ? 3 : 1, "let " + shorter + " = 1 then ^" + shorter + "a");
+        }
     }
 
     private static void declarations() {
