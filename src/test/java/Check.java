@@ -1,6 +1,8 @@
 /** A house with texts for bytes, and a count of what was not as due. */
 final class Check {
     private DispatchHouse house = new DispatchHouse();
+    private String sentence = "";
+    private int sentences;
     private int wrong;
     private int asked;
 
@@ -18,11 +20,18 @@ final class Check {
         return house;
     }
 
+    /** Begins the test of a sentence of the document, with a new house. */
+    DispatchHouse sentence(String words) {
+        sentence = words + " | ";
+        sentences++;
+        return anew();
+    }
+
     void due(String what, long got, long want) {
         asked++;
         if (got != want) {
             wrong++;
-            System.out.println(what + " answered " + got + ", due is " + want);
+            System.out.println(sentence + what + " answered " + got + ", due is " + want);
         }
     }
 
@@ -40,8 +49,44 @@ final class Check {
         }
         if (got != want) {
             wrong++;
-            System.out.println(what + " threw " + got + ", due is " + want);
+            System.out.println(sentence + what + " threw " + got + ", due is " + want);
         }
+    }
+
+    /** A call that throws and changes nothing that can be asked for. */
+    void refused(String what, Class<?> want, Ask ask) {
+        String before = state();
+        throwing(what, want, ask);
+        due(what + " changed nothing", before.equals(state()), true);
+    }
+
+    /** All that can be asked of a house without running or reading anything. */
+    private String state() {
+        StringBuilder all = new StringBuilder();
+        for (int what = 0; what < 7; what++) {
+            all.append(house.count(what)).append(' ').append(house.told(what)).append(' ');
+        }
+        for (int what = 0; what < 3; what++) {
+            int old = house.set(what, 1);
+            house.set(what, old);
+            all.append(old).append(' ');
+        }
+        for (int i = 0; i < house.told(4); i++) {
+            all.append(house.shown(i)).append(' ');
+        }
+        for (int i = 0; i < house.count(5); i += 8) {
+            all.append(house.word(i)).append(' ');
+        }
+        for (int c = 0; c < house.count(1); c++) {
+            for (int what = 0; what < 9; what++) {
+                all.append(house.call(c, what)).append(' ');
+            }
+        }
+        return all.toString();
+    }
+
+    static String times(int n, String part) {
+        return part.repeat(Math.max(0, n));
     }
 
     void feed(String text) {
@@ -121,7 +166,8 @@ final class Check {
     }
 
     void done() {
-        System.out.println(asked + " answers, " + wrong + " not as due");
+        String of = sentences == 0 ? "" : sentences + " sentences, ";
+        System.out.println(of + asked + " answers, " + wrong + " not as due");
         if (wrong != 0) {
             System.exit(1);
         }
