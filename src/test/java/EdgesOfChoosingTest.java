@@ -9,6 +9,7 @@ public final class EdgesOfChoosingTest {
         termsAreExact();
         onWithoutLayer();
         lastLayerFirst();
+        eightLayers();
         severalEndTheRow();
         severalByNumbers();
         nonePlain();
@@ -126,6 +127,34 @@ public final class EdgesOfChoosingTest {
             + "method f(x) around = next; method f(x) around in M = next; method f(x) around in L = next;");
         CHECK.gives("with L do with M do f(0)", 1);
         CHECK.ran(11, 12, 10, 7, 6, 3, 4, 2, 1, 9, 8);
+    }
+
+    private static void eightLayers() {
+        CHECK.sentence("of each layer that is on (all eight of them)");
+        CHECK.tell("call f(1) best left; method f(x) = 0; call s(1) sum left; method s(x) = 1;");
+        StringBuilder on = new StringBuilder();
+        for (int i = 1; i <= 8; i++) {
+            CHECK.tell("layer L" + i + "; method f(x) in L" + i + " = next * 10 + " + i + "; method s(x) in L" + i + " = 1;");
+            on.append("with L").append(i).append(" do ");
+        }
+        CHECK.gives(on + "f(0)", 12345678);
+        CHECK.gives(on + "s(0)", 9);
+        CHECK.ran(18, 16, 14, 12, 10, 8, 6, 4, 2);
+        // in a method there is room for more in one another
+        CHECK.tell("call g(1) best left; method g(x == 1) = with L1 do f(0); method g(x == 4) = with L4 do f(0); method g(x == 8) = with L8 do f(0);");
+        CHECK.gives(on + "g(1)", 23456781);
+        CHECK.gives(on + "g(4)", 12356784);
+        CHECK.gives(on + "g(8)", 12345678);
+        CHECK.tell("call h(1) best left; method h(x == 1) = without L1 do f(0); method h(x == 5) = without L5 do without L3 do f(0);"
+            + "method h(x == 8) = (without L8 do f(0)) * 10 + (f(0) == 12345678);");
+        CHECK.gives(on + "h(1)", 2345678);
+        CHECK.gives(on + "h(5)", 124678);
+        CHECK.gives(on + "h(8)", 12345671);
+        CHECK.gives("with L3 do with L1 do with L2 do with L3 do f(0)", 123);
+        CHECK.gives("with L3 do with L1 do with L2 do with L1 do f(0)", 321);
+        CHECK.gives("with L3 do with L1 do with L2 do without L1 do f(0)", 32);
+        CHECK.gives("with L3 do with L1 do with L2 do without L3 do f(0)", 12);
+        CHECK.gives("with L8 do with L7 do with L2 do without L2 do f(0)", 87);
     }
 
     private static void severalEndTheRow() {

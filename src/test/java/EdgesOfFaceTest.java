@@ -188,6 +188,24 @@ public final class EdgesOfFaceTest {
         house.feed(0, 0, 0, 0, 0);
         CHECK.due("end of all", house.end(0), 0);
         CHECK.due("bytes", house.count(6), 0);
+        // what was cut off is not read, be it the rest of a sign or of a remark
+        Object[][] all = {{"kind A <=B;", 8, 8}, {"kind A bare;", 6, 6}, {"kind ABC;kind ABC;", 9, -1}, {"kind D;$ x\nkind;", 8, -1},
+            {"kind E;kind", 7, -1}, {"call f(12) best left;", 8, 8}, {"kind AB;", 6, 6}, {"kind F;.", 7, -1}};
+        for (Object[] one : all) {
+            CHECK.anew();
+            CHECK.feed((String) one[0]);
+            CHECK.house().end((Integer) one[1]);
+            CHECK.due("tell of " + one[0] + " cut at " + one[1], CHECK.house().tell(), (Integer) one[2]);
+        }
+        Object[][] programs = {{"1 + 23", 5, 3}, {"2 == 2 - 1", 6, 1}, {"let x = 1 then x + 5", 16, 1}, {"7$\n + 1", 2, 7}};
+        for (Object[] one : programs) {
+            CHECK.anew();
+            CHECK.feed((String) one[0]);
+            CHECK.house().end((Integer) one[1]);
+            CHECK.due("program of " + one[0] + " cut at " + one[1], CHECK.house().program(), -1);
+            CHECK.house().run();
+            CHECK.due("its value", CHECK.house().told(2), (Integer) one[2]);
+        }
     }
 
     private static void endThrows() {
@@ -306,6 +324,14 @@ public final class EdgesOfFaceTest {
         CHECK.due("nearer", house.nearer(1, 2, 3, 0, 0), 1);
         CHECK.due("methods", house.call(0, 0), 2);
         CHECK.due("WHOLE", house.call(0, 5), 0);
+        house.clear();
+        CHECK.tell("call f(1) best left; method f(x) if x < 1 = 1; method f(x) if x < 2 = 2; method f(x == 3) if x < 3 = 3;");
+        CHECK.due("nearer", house.nearer(1, 2, 1, 0, 0), -1);
+        CHECK.gives("f(0)", 1);
+        house.clear();
+        CHECK.tell("call f(1) best left; method f(x) if x < 2 = 1; method f(x) if x < 1 = 2;");
+        CHECK.due("nearer", house.nearer(1, 2, 1, 0, 0), 1);
+        CHECK.gives("f(0)", 2);
     }
 
     private static void dropping() {
@@ -459,6 +485,19 @@ public final class EdgesOfFaceTest {
         CHECK.gives("f(g(1)) + f(B(1)) + f(1) + D(M(1))", 114);
         CHECK.programWrong(1, "f(B(1)) +^");
         CHECK.gives("f(B(1))", 11);
+        // SPECS and tests that are too many change none of those that are there
+        CHECK.anew();
+        CHECK.tell("kind A; call h(3) best left; call f(1) best left; method h(x: A, y: A == 1, z: A == 2) if x < 5 = 7;");
+        CHECK.tellWrong(4, "method f(x: Int, ^y: Int == 5) = 1;");
+        CHECK.tellWrong(4, "method f(x: Int, ^y: Int == 5, z: Int == 6, u: Int == 7, v: Int == 8) = 1;");
+        CHECK.tellWrong(4, "method h(x, y, z, ^u: Int == 5, v: Int == 6) if x < 1 = 1;");
+        CHECK.tellWrong(7, "method f(x) if x<9 or x<8 or x<7 or x<6 or x<5 or x<4 or ^x<3 or x<2 or x<1 = 1;");
+        CHECK.tellWrong(7, "method f(x) = #1" + Check.times(149, "+1") + " ^+ 1" + Check.times(200, "+1") + ";");
+        CHECK.gives("h(A(4), A(1), A(2))", 7);
+        CHECK.faults("h(A(5), A(1), A(2))", 1);
+        CHECK.faults("h(A(4), A(1), A(6))", 1);
+        CHECK.faults("h(A(4), A(1), 2)", 1);
+        CHECK.due("LISTS", CHECK.house().call(0, 1), 2);
     }
 
     private static void rightComesToIt() {

@@ -14,11 +14,14 @@ public final class EdgesOfKindsTest {
         rowOfLast();
         rowsOfTheSameWay();
         longRows();
+        rowsOfOthers();
         rowBehindItsEnd();
         rowThrows();
         fits();
         sameKinds();
         takenNumbers();
+        muchAsked();
+        manyThatAsk();
         theEndsOfInt();
         kindsBeing();
         byEach();
@@ -194,6 +197,47 @@ public final class EdgesOfKindsTest {
         CHECK.due("Any", CHECK.house().row(23, 0, 23), 0);
         CHECK.due("Any by way 1", CHECK.house().row(23, 1, 2), 0);
         CHECK.due("behind", CHECK.house().row(23, 1, 24), -1);
+        CHECK.anew();
+        CHECK.tell(wide + ", Any;");
+        for (int way = 0; way < 3; way++) {
+            CHECK.due("the kind", CHECK.house().row(23, way, 0), 23);
+            CHECK.due("the first parent", CHECK.house().row(23, way, 1), 1);
+            CHECK.due("the last of 24", CHECK.house().row(23, way, 23), way == 1 ? 22 : 0);
+            CHECK.due("behind", CHECK.house().row(23, way, 24), -1);
+        }
+    }
+
+    private static void rowsOfOthers() {
+        DispatchHouse house = CHECK.sentence("ROWS of a kind (what was told before of others does not matter)");
+        // 3 A, 4 B, 5 C < A, B, Int, Fault, 6 D < A, 7 E
+        CHECK.tell("kind A; kind B; kind C < A, B, Int, Fault; kind D < A; kind E; kind F < E, D;");
+        for (int way = 0; way < 3; way++) {
+            row(6, way, 6, 3, 0);
+            row(7, way, 7, 0);
+        }
+        row(8, 0, 8, 7, 6, 3, 0);
+        row(8, 1, 8, 7, 0, 6, 3);
+        row(8, 2, 8, 7, 6, 3, 0);
+        CHECK.tellWrong(3, "kind G < A, B, C, D, ^Q;");
+        CHECK.tell("kind G < Int;");
+        for (int way = 0; way < 3; way++) {
+            row(9, way, 9, 1, 0);
+        }
+        house.clear();
+        CHECK.tell("kind A; kind B < A; kind C < B; kind D < C;");
+        house.clear();
+        CHECK.tell("kind P; kind Q; kind R; kind S; kind T < R, Q; kind U < S, T;");
+        for (int way = 0; way < 3; way++) {
+            for (int k = 3; k < 7; k++) {
+                row(k, way, k, 0);
+            }
+        }
+        row(7, 0, 7, 5, 4, 0);
+        row(7, 1, 7, 5, 0, 4);
+        row(7, 2, 7, 5, 4, 0);
+        row(8, 0, 8, 6, 7, 5, 4, 0);
+        row(8, 1, 8, 6, 0, 7, 5, 4);
+        row(8, 2, 8, 6, 7, 5, 4, 0);
     }
 
     private static void rowBehindItsEnd() {
@@ -298,6 +342,47 @@ public final class EdgesOfKindsTest {
         asks(0, "x == 1, y) if x == 2", "x, y) if y < y");
         asks(0, "x == 1, y)", "x == 1, y) if x == 1");
         asks(1, "x == 1, y)", "x == 1, y) if y == 1");
+        asks(-1, "x, y == 3)", "x, y) if 2 < y");
+        asks(0, "x, y == 3)", "x, y) if 3 < y");
+        asks(-1, "x == 2, y == 3)", "x, y) if x + 1 == y");
+        asks(0, "x == 3, y == 2)", "x, y) if x + 1 == y");
+    }
+
+    private static void muchAsked() {
+        CHECK.sentence("ASKS MORE: its == and TEST (three == and six comparisons each)");
+        CHECK.tell("kind A; call f(3) best left;");
+        String six = " if x < y and y < z and not x == 5 and z <= 30 and x is A and z ";
+        CHECK.tell("method f(x == 10, y == 20, z == 30)" + six + "<= 30 = 1;");
+        CHECK.tell("method f(x == 10, y == 20, z == 30)" + six + "< 30 = 1;");
+        CHECK.tell("method f(x == 10, y == 20, z == 30)" + six + "== 30 = 1;");
+        CHECK.tell("method f(x, y, z)" + six + "== 30 = 1;");
+        CHECK.tell("method f(x, y, z)" + six + "<= 30 = 1;");
+        CHECK.tell("method f(x, y, z == 30)" + six + "<= 30 = 1;");
+        nearer(1, 1, 2, 3, 3, 3);
+        nearer(0, 1, 3, 3, 3, 3);
+        nearer(-1, 2, 3, 3, 3, 3);
+        nearer(-1, 3, 4, 3, 3, 3);
+        nearer(-1, 4, 5, 3, 3, 3);
+        nearer(0, 4, 6, 3, 3, 3);
+        nearer(0, 4, 5, 1, 3, 3);
+        nearer(0, 1, 2, 1, 3, 3);
+    }
+
+    private static void manyThatAsk() {
+        CHECK.sentence("ASKS MORE (of methods whose numbers are great)");
+        StringBuilder text = new StringBuilder("call f(1) best left;");
+        for (int i = 1; i <= 120; i++) {
+            text.append("method f(x)if x<").append(i % 2 == 0 ? i : 200 - i).append("=1;");
+        }
+        CHECK.tell(text.toString());
+        int[] all = {1, 2, 3, 63, 64, 65, 66, 67, 119, 120};
+        for (int m : all) {
+            for (int n : all) {
+                int one = m % 2 == 0 ? m : 200 - m;
+                int other = n % 2 == 0 ? n : 200 - n;
+                CHECK.due("nearer " + m + " " + n, CHECK.house().nearer(m, n, 1, 0, 0), Integer.compare(one, other));
+            }
+        }
     }
 
     private static void theEndsOfInt() {
@@ -329,6 +414,18 @@ public final class EdgesOfKindsTest {
         nearer(-1, 1, 3, 1, NONE, NONE);
         nearer(-1, 4, 1, 3, NONE, NONE);
         nearer(1, 4, 1, 1, NONE, NONE);
+        // which of the tests is the one that holds matters, for each kind anew
+        CHECK.tell("call g(1) best left; method g(x) if x < 1 and x is A = 1; method g(x) if x < 2 and x is B = 1; method g(x) if x is B or x < 1 and x is A = 1;");
+        for (int round = 0; round < 2; round++) {
+            nearer(-1, 5, 6, 4, NONE, NONE);
+            nearer(1, 5, 6, 3, NONE, NONE);
+            nearer(0, 5, 6, 1, NONE, NONE);
+            nearer(-1, 5, 7, 4, NONE, NONE);
+            nearer(0, 5, 7, 3, NONE, NONE);
+            nearer(-1, 6, 7, 3, NONE, NONE);
+            nearer(-1, 6, 7, 4, NONE, NONE);
+            nearer(0, 6, 7, 1, NONE, NONE);
+        }
     }
 
     private static void byEach() {

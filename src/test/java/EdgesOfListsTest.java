@@ -28,6 +28,9 @@ public final class EdgesOfListsTest {
         behindTheTwoHundredth();
         passedOverAlone();
         kindsOfTheRow();
+        askedAlone();
+        manyLists();
+        manyMethods();
         methodsOfACall();
         callThrows();
         CHECK.done();
@@ -372,6 +375,13 @@ public final class EdgesOfListsTest {
         whole(1, 1);
         CHECK.tell("method f(x) = 1;");
         whole(0);
+        CHECK.tell("call g(1) best left; method g(x) around if x < 5 = 1; method g(x) in L if x < 6 = 1; method g(x) = 1; method g(x) before if x < 3 = 1;"
+            + "method g(x) if x < 4 = 1;");
+        whole(0);
+        CHECK.house().drop(8);
+        whole(1, 1);
+        CHECK.house().clear();
+        CHECK.tell("layer L; call f(1) best left; method f(x) = 1;");
         CHECK.tell("method f(x) in L if x < 5 = 1; method f(x) in L if 3 < x = 1; method f(x) around if x < 5 = 1; method f(x) around if 3 < x = 1;");
         whole(0);
         // what the others ask is not counted
@@ -394,6 +404,15 @@ public final class EdgesOfListsTest {
             whole(-1);
             CHECK.house().drop(5);
             whole(2, 1);
+        }
+        // an == counts at each place
+        for (String ninth : new String[] {"x == 1, y, z)", "x, y == 1, z)", "x, y, z == 1)"}) {
+            CHECK.anew();
+            CHECK.tell("call f(3) best left; method f(x, y, z) = 1; method f(x, y == 2, z == 2) if x < 5 and y < 5 and x < 6 and y < 6 = 1;"
+                + "method f(x == 2, y, z) if z < 5 = 1;");
+            whole(2, 1, 1, 1);
+            CHECK.tell("method f(" + ninth + " = 1;");
+            whole(-1);
         }
         CHECK.anew();
         CHECK.tell(eight);
@@ -507,6 +526,93 @@ public final class EdgesOfListsTest {
         CHECK.tell("call f(2) best left; method f(x: Int, y) = 1;");
         CHECK.due("the second place", CHECK.house().call(0, 7), 1);
         CHECK.due("the first place", CHECK.house().call(0, 6), 2);
+    }
+
+    private static void askedAlone() {
+        CHECK.sentence("Promise 13: Of call c what (each asked before the others)");
+        int[] want = {3, 5, 16, 9, 4, 1, 1, 1, -1};
+        for (int what = 0; what < want.length; what++) {
+            CHECK.anew();
+            CHECK.tell("kind A; kind B < A; call f(2) best left; method f(x: A, y) = 1; method f(x, y: A) = 1; method f(x: B, y: B) = 1;");
+            CHECK.due("call 0 " + what, CHECK.house().call(0, what), want[what]);
+            CHECK.house().drop(1);
+            CHECK.due("methods", CHECK.house().call(0, 0), 2);
+        }
+        CHECK.anew();
+        CHECK.tell("kind A; call f(2) best left; method f(x: A, y: A) = 1;");
+        CHECK.house().set(0, 3);
+        CHECK.gives("f(A(1), A(1))", 1);
+        CHECK.due("LOOKS", CHECK.house().told(6), 3);
+        CHECK.tell("method f(x, y) = 1; method f(x, y: Int) = 1;");
+        CHECK.gives("f(A(1), 1)", 1);
+        // by y first: 1 and 1
+        CHECK.due("LOOKS", CHECK.house().told(6), 2);
+    }
+
+    /** A method for each kind at each place, all others saying nothing: so all rows of GROUPS have their own LIST. */
+    private static String each(int places) {
+        StringBuilder text = new StringBuilder("call f" + places + "(" + places + ")sum left;");
+        String specs = "x,y,z".substring(0, 2 * places - 1);
+        for (int p = 0; p < places; p++) {
+            for (int i = 0; i < 21; i++) {
+                String name = specs.substring(2 * p, 2 * p + 1);
+                text.append("method f").append(places).append("(").append(specs.replace(name, name + ":K" + i)).append(")=1;");
+            }
+        }
+        return text.toString();
+    }
+
+    private static void manyLists() {
+        CHECK.sentence("LISTS, CELLS and NODES of the largest calls");
+        StringBuilder kinds = new StringBuilder();
+        for (int i = 0; i < 21; i++) {
+            kinds.append("kind K").append(i).append(";");
+        }
+        CHECK.tell(kinds.toString());
+        CHECK.tell(each(2));
+        told(0, 42, 22 * 22, 23 * 23, 22 * 22, 1 + 22, 1, 1, 1, -1);
+        CHECK.tell(each(3));
+        told(1, 63, 22 * 22 * 22, 23 * 23 * 23, 22 * 22 * 22, 1 + 22 + 22 * 22, 1, 1, 1, 1);
+        told(0, 42, 22 * 22, 23 * 23, 22 * 22, 1 + 22);
+        looks("f3(K0(0), 0, K20(0)) + f2(K5(0), K6(0))", 105, 2, 7, 7);
+        CHECK.ran(43, 105, 6, 28);
+    }
+
+    private static void manyMethods() {
+        DispatchHouse house = CHECK.sentence("LISTS of more than 64 methods");
+        StringBuilder text = new StringBuilder("kind A; kind B < A; call f(1) sum left; call g(2) sum left;");
+        for (int i = 1; i <= 120; i++) {
+            String kind = i % 4 == 0 ? "Int" : i % 4 == 1 ? "A" : i % 4 == 2 ? "B" : "Fault";
+            text.append(i <= 62 ? "method f(x:" + kind + "==" + i + ")=1;" : "method g(x:" + kind + ",y==" + i + ")=1;");
+        }
+        CHECK.tell(text.toString());
+        // f: 1 to 62; g: 63 to 120
+        told(0, 62, 4, 4, 4, 1);
+        told(1, 58, 4, 16, 4, 1);
+        for (int i : new int[] {63, 64, 65, 66, 67, 68, 117, 118, 119, 120}) {
+            String kind = i % 4 == 0 ? "Int" : i % 4 == 1 ? "A" : i % 4 == 2 ? "B" : "Fault";
+            CHECK.gives("g(" + kind + "(0), " + i + ")", 1);
+            CHECK.ran(i);
+            CHECK.faults("g(" + (i % 4 == 0 ? "A" : "Int") + "(0), " + i + ")", 1);
+        }
+        CHECK.due("drop 65", house.drop(65), true);
+        CHECK.faults("g(A(0), 65)", 1);
+        told(0, 62);
+        told(1, 57, 4, 16, 4, 1);
+        CHECK.due("drop 1", house.drop(1), true);
+        told(0, 61);
+        house.clear();
+        // the same numbers with other kinds
+        text = new StringBuilder("kind A; kind B < A; call f(1) sum left; call g(2) sum left;");
+        for (int i = 1; i <= 120; i++) {
+            text.append(i <= 62 ? "method f(x==" + i + ")=1;" : "method g(x,y:" + (i < 100 ? "B" : "Int") + "==" + i + ")=1;");
+        }
+        CHECK.tell(text.toString());
+        told(0, 62, 1, 4, 1, 0);
+        told(1, 58, 3, 16, 3, 1);
+        CHECK.gives("f(62) + g(0, B(65)) + g(0, 120)", 3);
+        CHECK.ran(62, 65, 120);
+        CHECK.faults("g(0, A(65))", 1);
     }
 
     private static void methodsOfACall() {

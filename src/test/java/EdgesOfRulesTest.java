@@ -32,6 +32,8 @@ public final class EdgesOfRulesTest {
         comparisons();
         nodes();
         placesOfNodes();
+        manyNodes();
+        allAtOnce();
         twins();
         lookedAtLast();
         CHECK.done();
@@ -241,6 +243,12 @@ public final class EdgesOfRulesTest {
         CHECK.tellWrong(4, "method h(x, y^) = 1;");
         CHECK.tellWrong(4, "method h(x, y, z, ^u) = 1;");
         CHECK.tell("method f(x) = 1; method g(x, y) = 1; method h(x, y, z) = 1;");
+        CHECK.anew();
+        CHECK.tell("call g(2) best left;");
+        CHECK.tellWrong(4, "method g(x^) = 1;");
+        CHECK.tellWrong(4, "method g(x, y, ^z) = 1;");
+        CHECK.tellWrong(4, "method g(x, y) = g(1^);");
+        CHECK.tellWrong(4, "method g(x, y) = next(1^);");
     }
 
     private static void arguments() {
@@ -292,6 +300,10 @@ public final class EdgesOfRulesTest {
         CHECK.tellWrong(5, "kind ^C < X, P;");
         CHECK.tell("kind C < B, A, Any; kind D < P, X, Y, Any;");
         CHECK.tellWrong(5, "kind E; kind ^F < E, C, P, Q; kind G < G;");
+        // parents of kinds before are none of its own
+        CHECK.tell("kind W; kind V < A, Int, W, Fault;");
+        CHECK.tellWrong(5, "kind ^U < P, Q;");
+        CHECK.tellWrong(5, "kind ^U < X, P;");
     }
 
     private static void sameParent() {
@@ -364,6 +376,9 @@ public final class EdgesOfRulesTest {
         CHECK.tellWrong(2, "call ^x(1) best left;");
         house.clear();
         CHECK.tell(calls(24, "d"));
+        for (int i = 0; i < 24; i++) {
+            CHECK.program("d" + i + "(1)");
+        }
     }
 
     private static String methods(int from, int till) {
@@ -467,6 +482,72 @@ public final class EdgesOfRulesTest {
             CHECK.tell(WORLD);
             CHECK.programWrong(7, before(299) + form);
         }
+    }
+
+    /** Both sides of a tree of tries, so deep. */
+    private static String tries(int deep) {
+        return deep == 0 ? "x" : "try " + tries(deep - 1) + " on x do " + tries(deep - 1);
+    }
+
+    private static void manyNodes() {
+        CHECK.sentence("the 301st NODE (300 of each sort run as fewer do)");
+        CHECK.tell("layer L; call f(1) best left; call g(1) best left; method g(x) = #x + 1;");
+        CHECK.gives("(if 1 then 2 else 3)" + Check.times(59, "+(if 0 then 2 else 3)"), 2 + 59 * 3);
+        CHECK.steps(299 - 60);
+        CHECK.gives("(with L do 1)" + Check.times(99, "+(with L do 1)"), 100);
+        CHECK.steps(299);
+        CHECK.gives("let x = 1 then " + Check.times(59, "(let x = #x then x)+") + "1", 60);
+        CHECK.steps(298);
+        // 1 + 2 * 127 + 31 nodes and what joins them
+        CHECK.gives("let x = 5 then (" + tries(6) + ") + (" + tries(6) + ") * 10 + (" + tries(4) + ") * 100", 555);
+        CHECK.tell("method f(x) = (" + tries(6) + ") + (" + tries(6) + ") * 10 + (" + tries(4) + ") * 100;");
+        CHECK.tell("method f(x: Int) = next + (if x then 1000 else 2000);");
+        CHECK.gives("f(5) + g(6)", 1555 + 7);
+        CHECK.gives("f(0) + f(Fault(3))", 2000 + 333);
+        // many long methods: each keeps its own
+        CHECK.anew();
+        CHECK.tell("call f(1) best left;");
+        for (int i = 1; i <= 12; i++) {
+            CHECK.tell("method f(x == " + i + ") = " + i + Check.times(140, "+x") + ";");
+        }
+        for (int i = 1; i <= 12; i++) {
+            CHECK.gives("f(" + i + ")", 141 * i);
+            CHECK.steps(2 + 281);
+        }
+    }
+
+    private static void allAtOnce() {
+        DispatchHouse house = CHECK.sentence("24 kinds, 24 calls, 120 methods, 8 layers at once");
+        CHECK.tell(kinds(21, "K") + "layer L0; layer L1; layer L2; layer L3; layer L4; layer L5; layer L6; layer L7;");
+        CHECK.tell(calls(23, "c") + "call c23(3)least near;");
+        StringBuilder text = new StringBuilder();
+        for (int i = 0; i < 119; i++) {
+            text.append("method c").append(i % 23).append("(v:K").append(i % 21).append(")=let w=v then w+").append(i).append(";");
+        }
+        CHECK.tell(text + "method c23(u, v, w) in L7 = let a=u then let b=v then let c=w then let d=a+b+c then d;");
+        int[] counts = {24, 24, 120, 8, 0};
+        for (int what = 0; what < counts.length; what++) {
+            CHECK.due("count " + what, house.count(what), counts[what]);
+        }
+        for (int i : new int[] {0, 1, 20, 21, 22, 62, 63, 64, 65, 66, 117, 118}) {
+            CHECK.gives("c" + i % 23 + "(K" + i % 21 + "(5))", 5 + i);
+            CHECK.ran(i + 1);
+        }
+        CHECK.gives("with L0 do with L7 do c23(1, 2, 3)", 6);
+        CHECK.ran(120);
+        CHECK.faults("c23(1, 2, 3)", 1);
+        CHECK.due("methods of the last call", house.call(23, 0), 1);
+        CHECK.due("methods of the first call", house.call(0, 0), 6);
+        CHECK.due("methods of the call before the last", house.call(22, 0), 5);
+        CHECK.due("LISTS of the first call", house.call(0, 1), 7);
+        CHECK.due("CELLS of the last call", house.call(23, 2), 23 * 23 * 23);
+        CHECK.due("PRESSED CELLS of the first call", house.call(0, 3), 7);
+        CHECK.due("NODES of the first call", house.call(0, 4), 1);
+        CHECK.due("NODES of the last call", house.call(23, 4), 0);
+        CHECK.due("WHOLE of the last call", house.call(23, 5), 1);
+        CHECK.due("its row", house.call(23, 8), 1);
+        CHECK.due("WHOLE of the first call", house.call(0, 5), 1);
+        CHECK.due("its row", house.call(0, 6), 1);
     }
 
     private static void twins() {

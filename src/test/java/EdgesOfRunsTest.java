@@ -407,6 +407,15 @@ public final class EdgesOfRunsTest {
         house.set(2, 10);
         CHECK.run(program, 0, 1, 6);
         CHECK.steps(9);
+        house.clear();
+        CHECK.tell("call f(1) best left; method f(x) = 1; method f(x: Int) = next;");
+        // f, 1; next; 1
+        int[] methods = {0, 0, 1, 2, 2};
+        for (int fuel = 1; fuel <= 4; fuel++) {
+            house.set(2, fuel);
+            CHECK.run("f(1)", fuel < 4 ? 4 : 0, fuel < 4 ? -1 : 1, fuel < 4 ? 0 : 1);
+            CHECK.due("methods with FUEL " + fuel, house.told(5), methods[fuel]);
+        }
         house.set(2, 2);
         CHECK.run("try 1 / 0 on x do 7", 4, -1, 0);
         CHECK.run("1 / 0", 4, -1, 0);

@@ -13,10 +13,12 @@ public final class EdgesOfSignsTest {
         firstOfNames();
         restOfNames();
         lengthsOfNames();
+        differentNames();
         numbers();
         words();
         oneDeclaration();
         endsTooEarly();
+        endsOfTapes();
         noSign();
         kindsAndCalls();
         layersAndMethods();
@@ -148,6 +150,30 @@ public final class EdgesOfSignsTest {
         CHECK.tellWrong(1, "kind ^" + Check.times(300, "kind") + ";");
     }
 
+    private static void differentNames() {
+        CHECK.sentence("NAMES (two are the same if all their bytes are)");
+        String all = "abcdefghijklmnopqrstuvwxyzABCDEFGHIJKLMNOPQRSTUVWXYZ_0123456789";
+        for (int i = 0; i < all.length(); i++) {
+            for (int j = 0; j < i; j++) {
+                CHECK.anew();
+                CHECK.tell("kind x" + all.charAt(i) + "; kind x" + all.charAt(j) + ";");
+            }
+        }
+        String name = "abcdefghijklmnop";
+        for (int i = 0; i < 16; i++) {
+            for (char other : new char[] {'q', 'A', '_'}) {
+                CHECK.anew();
+                CHECK.tell("kind " + name + "; kind " + name.substring(0, i) + other + name.substring(i + 1) + ";");
+                CHECK.tellWrong(2, "kind ^" + name + ";");
+            }
+            if (i > 0) {
+                CHECK.tell("kind " + name.substring(0, i) + ";");
+            }
+        }
+        CHECK.anew();
+        CHECK.tell("kind a; kind aa; kind aaa; kind aaaaaaaaaaa; kind aaaaaaaaaa; kind aaaaaaaaaaaa;");
+    }
+
     private static void numbers() {
         CHECK.sentence("numbers: digits, an int");
         CHECK.gives("0", 0);
@@ -240,6 +266,30 @@ public final class EdgesOfSignsTest {
         prefixes(false, "( 1 + 2 * - 3 ) < A ( 4 )", "( 1 + 2 * - 3 )", "( 1 + 2 * - 3 ) < A");
     }
 
+    private static void endsOfTapes() {
+        CHECK.sentence("the text's length, if it ends too early (at lengths that are powers of two)");
+        for (int length = 128; length <= 8192; length *= 2) {
+            for (String last : new String[] {"kind A;$ a remark", "kind A <", "kind A", "kind A < Int,", "call f(12", "call f(1) best left; method f(x)=",
+                "kind A;"}) {
+                DispatchHouse house = CHECK.anew();
+                String text = Check.times(length - last.length(), " ") + last;
+                if (length < 8192) {
+                    CHECK.feed(text);
+                } else {
+                    CHECK.feed(text.substring(0, 8172));
+                    byte[] rest = text.substring(8172).getBytes();
+                    int[] five = new int[5];
+                    for (int j = 0; j < 20; j++) {
+                        five[j / 4] = five[j / 4] << 8 | rest[j];
+                    }
+                    house.feed(five[0], five[1], five[2], five[3], five[4]);
+                }
+                CHECK.due("bytes", house.count(6), length);
+                CHECK.due("tell of " + length + " bytes up to " + last, house.tell(), last.startsWith("kind A;") ? -1 : length);
+            }
+        }
+    }
+
     private static void noSign() {
         CHECK.sentence("a byte that begins no sign: its PLACE");
         String marks = "\0!\"%&'.>?@[\\]^`{|}~\u007F\u0080\u00FF\u0001\u000B\u000C\u001F\u00A0";
@@ -289,6 +339,17 @@ public final class EdgesOfSignsTest {
         CHECK.tellWrong(1, "call f(1) best^;");
         CHECK.tellWrong(1, "call f(1) ^left best;");
         CHECK.tellWrong(1, "call f(1) best left ^near;");
+        for (String word : WORDS.split(" ")) {
+            if (!"best sum all any least".contains(word)) {
+                CHECK.tellWrong(1, "call f(1) ^" + word + " left;");
+            }
+        }
+        CHECK.anew();
+        for (String word : WORDS.split(" ")) {
+            if (!"left each near".contains(word)) {
+                CHECK.tellWrong(1, "call f(1) best ^" + word + ";");
+            }
+        }
     }
 
     private static void layersAndMethods() {
@@ -390,6 +451,15 @@ public final class EdgesOfSignsTest {
         CHECK.gives(Check.times(10, "show ") + "1", 1);
         CHECK.programWrong(1, Check.times(11, "show ") + "^1");
         CHECK.programWrong(1, Check.times(11, "show ") + "^x");
+        // the twelfth E is fine, what is in it is not
+        CHECK.programWrong(1, Check.times(12, "show ") + "^show 1");
+        CHECK.programWrong(1, Check.times(11, "show ") + "let x = ^1 then x");
+        CHECK.programWrong(1, Check.times(11, "show ") + "if ^1 then 2 else 3");
+        CHECK.programWrong(1, Check.times(6, "(") + "^)" + Check.times(5, ")"));
+        CHECK.programWrong(1, Check.times(6, "Int(") + "^)" + Check.times(5, ")"));
+        CHECK.programWrong(1, "1 + " + Check.times(11, "#") + "^+ 1");
+        CHECK.programWrong(1, Check.times(12, "show ") + "^");
+        CHECK.anew();
         CHECK.gives(Check.times(4, "(") + "##1" + Check.times(4, ")"), 1);
         CHECK.programWrong(1, Check.times(4, "(") + "###^1" + Check.times(4, ")"));
         CHECK.anew();
@@ -424,6 +494,8 @@ public final class EdgesOfSignsTest {
         CHECK.tellWrong(1, "method f(x) if " + Check.times(12, "(") + "^x < 1" + Check.times(12, ")") + " = 1;");
         CHECK.tell("method f(x) if " + Check.times(5, "not (") + "not x < 1" + Check.times(5, ")") + " = 1;");
         CHECK.tellWrong(1, "method f(x) if " + Check.times(6, "not (") + "^x < 1" + Check.times(6, ")") + " = 1;");
+        CHECK.tellWrong(1, "method f(x) if " + Check.times(12, "(") + "^)" + Check.times(11, ")") + " = 1;");
+        CHECK.tellWrong(1, "method f(x) if " + Check.times(12, "not ") + "^= 1;");
         CHECK.tellWrong(1, "method f(x) if x < 0 or " + Check.times(6, "not (") + "^x is Int" + Check.times(6, ")") + " = 1;");
     }
 

@@ -12,8 +12,7 @@ import java.util.TreeSet;
 
 /**
  * The document once more, as plainly as can be and by other means: a tree of nodes that is walked, numbers that are
- * tried out, tables that are really made. It is slow, and its NEARER and WHOLE are right only for tests whose numbers
- * are small or close to the ends of int; it is what DispatchHouse is held against.
+ * tried out, tables that are really made. It is slow; it is what DispatchHouse is held against.
  */
 final class NaiveHouse {
     static final Set<String> WORDS = new HashSet<>(Arrays.asList(("kind bare call layer method around before behind in if"
@@ -1308,30 +1307,6 @@ final class NaiveHouse {
 
     // ------------------------------------------------------------------ nearer and whole, by trying numbers out
 
-    private static final long[] FEW = few(5, 2, 3);
-    private static final long[] MANY = few(14, 6, 9);
-
-    private static long[] few(int nearZero, int nearEnds, int nearFar) {
-        TreeSet<Long> all = new TreeSet<>();
-        for (long i = -nearZero; i <= nearZero; i++) {
-            all.add(i);
-        }
-        for (long i = 0; i <= nearEnds; i++) {
-            all.add(Integer.MAX_VALUE - i);
-            all.add(Integer.MIN_VALUE + i);
-        }
-        for (long i = -nearFar; i <= nearFar; i++) {
-            all.add(1000000 + i);
-            all.add(-1000000 + i);
-        }
-        long[] some = new long[all.size()];
-        int n = 0;
-        for (long one : all) {
-            some[n++] = one;
-        }
-        return some;
-    }
-
     private static boolean takes(Method m, List<Kind> at, long[] numbers) {
         for (int p = 0; p < at.size(); p++) {
             if (m.equals.get(p) != null && m.equals.get(p) != numbers[p]) {
@@ -1364,26 +1339,83 @@ final class NaiveHouse {
         return term.number + (term.op.equals("name") ? numbers[m.names.indexOf(term.name.text)] : 0);
     }
 
-    private static List<long[]> pointsOf(int places) {
-        long[] some = places == 3 ? FEW : MANY;
-        List<long[]> all = new ArrayList<>();
-        int size = 1;
+    /**
+     * Points enough to meet every way in which numbers can be taken by these methods. If some numbers do what they do,
+     * make them as great as can be without a change of any comparison: then each is the greatest int, or held by a
+     * comparison with a number, or by one with another argument; so the first of the arguments (in some order) is at one
+     * of its own edges, the next at one of its own or of those that the ones before it set, and so on.
+     */
+    private static List<long[]> pointsFor(List<Method> methods, int places) {
+        List<TreeSet<Long>> edges = new ArrayList<>();
+        List<List<TreeSet<Long>>> apart = new ArrayList<>();
         for (int p = 0; p < places; p++) {
-            size *= some.length;
-        }
-        for (int i = 0; i < size; i++) {
-            long[] point = new long[places];
-            int left = i;
-            for (int p = 0; p < places; p++) {
-                point[p] = some[left % some.length];
-                left /= some.length;
+            edges.add(new TreeSet<>(Arrays.asList((long) Integer.MAX_VALUE, (long) Integer.MIN_VALUE)));
+            apart.add(new ArrayList<>());
+            for (int q = 0; q < places; q++) {
+                apart.get(p).add(new TreeSet<>());
             }
-            all.add(point);
         }
+        for (Method m : methods) {
+            for (int p = 0; p < places; p++) {
+                if (m.equals.get(p) != null) {
+                    addAround(edges.get(p), m.equals.get(p));
+                }
+            }
+            for (Node comparison : m.test == null ? new ArrayList<Node>() : comparisonsOf(m.test)) {
+                if (!comparison.op.equals("is")) {
+                    Node left = comparison.parts.get(0);
+                    Node right = comparison.parts.get(1);
+                    int one = left.op.equals("name") ? m.names.indexOf(left.name.text) : -1;
+                    int other = right.op.equals("name") ? m.names.indexOf(right.name.text) : -1;
+                    long more = (long) right.number - left.number;
+                    if (one >= 0 && other >= 0) {
+                        addAround(apart.get(one).get(other), more);
+                        addAround(apart.get(other).get(one), -more);
+                    } else if (one >= 0) {
+                        addAround(edges.get(one), more);
+                    } else if (other >= 0) {
+                        addAround(edges.get(other), -more);
+                    }
+                }
+            }
+        }
+        List<long[]> all = new ArrayList<>();
+        addPoints(edges, apart, new ArrayList<>(), new long[places], all);
         return all;
     }
 
-    private static final List<List<long[]>> POINTS = Arrays.asList(null, pointsOf(1), pointsOf(2), pointsOf(3));
+    private static void addAround(Set<Long> some, long number) {
+        some.add(number - 1);
+        some.add(number);
+        some.add(number + 1);
+    }
+
+    private static void addPoints(List<TreeSet<Long>> edges, List<List<TreeSet<Long>>> apart, List<Integer> done, long[] point,
+            List<long[]> all) {
+        if (done.size() == point.length) {
+            all.add(point.clone());
+            return;
+        }
+        for (int p = 0; p < point.length; p++) {
+            if (!done.contains(p)) {
+                Set<Long> candidates = new TreeSet<>(edges.get(p));
+                for (int q : done) {
+                    for (long more : apart.get(p).get(q)) {
+                        candidates.add(point[q] + more);
+                    }
+                }
+                done.add(p);
+                for (long candidate : candidates) {
+                    if (candidate == (int) candidate) {
+                        point[p] = candidate;
+                        addPoints(edges, apart, done, point, all);
+                    }
+                }
+                done.remove(done.size() - 1);
+            }
+        }
+    }
+
     private final Map<List<Object>, Integer> settled = new HashMap<>();
 
     private int asksMore(Method m, Method n, List<Kind> at) {
@@ -1399,7 +1431,7 @@ final class NaiveHouse {
         }
         boolean mAlone = false;
         boolean nAlone = false;
-        for (long[] point : POINTS.get(at.size())) {
+        for (long[] point : pointsFor(Arrays.asList(m, n), at.size())) {
             boolean one = takes(m, at, point);
             boolean other = takes(n, at, point);
             mAlone |= one && !other;
@@ -1473,7 +1505,7 @@ final class NaiveHouse {
         if (asked == 0) {
             sets.add(plain);
         } else {
-            for (long[] point : POINTS.get(call.places)) {
+            for (long[] point : pointsFor(plain, call.places)) {
                 List<Method> applying = new ArrayList<>();
                 for (Method m : plain) {
                     if (takes(m, row, point)) {

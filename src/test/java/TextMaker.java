@@ -127,7 +127,7 @@ final class TextMaker {
     }
 
     private String number() {
-        return oneIn(40) ? oneOf("2147483647 -2147483647 002 1000000") : String.valueOf(chance.nextInt(5) - 2);
+        return oneIn(12) ? oneOf("2147483647 -2147483647 2147483646 -2147483646 002 7 -9 1000000 1073741824") : String.valueOf(chance.nextInt(5) - 2);
     }
 
     private String method() {
@@ -188,7 +188,11 @@ final class TextMaker {
         if (oneIn(3)) {
             return number();
         }
-        return (oneIn(200) ? "q" : oneOf(variables)) + (oneIn(2) ? oneOf("+ -") + chance.nextInt(2) : "");
+        return (oneIn(200) ? "q" : oneOf(variables)) + (oneIn(2) ? oneOf("+ -") + more() : "");
+    }
+
+    private String more() {
+        return oneIn(10) ? oneOf("2147483647 2147483646 1000 7") : String.valueOf(chance.nextInt(3));
     }
 
     String program() {
