@@ -408,6 +408,14 @@ public final class EdgesOfChoosingTest {
         CHECK.ran(4, 2, 1);
         CHECK.gives("f(1, 2, 3)", 817);
         CHECK.ran(4, 3, 2, 1);
+        // other calls and other nexts before it do not matter
+        CHECK.tell("call g(1) best left; method g(x) = #x; method g(x: Int) = g(Fault(70)) + next(40) + next;"
+            + "method g(x: Int) around = next(5) * 10000 + next;");
+        CHECK.gives("g(3)", (70 + 40 + 5) * 10000 + 70 + 40 + 3);
+        CHECK.tell("call s(2) sum left; method s(x, y) = g(7) - g(7) + 10 * x + y; method s(x: Int, y) = 10 * x + y; method s(x, y) before = g(8);"
+            + "method s(x, y) behind = show 10 * x + y;");
+        CHECK.gives("s(1, 2)", 24);
+        CHECK.showed(12);
     }
 
     private static void nextWithArguments() {

@@ -485,6 +485,18 @@ public final class EdgesOfFaceTest {
         CHECK.gives("f(g(1)) + f(B(1)) + f(1) + D(M(1))", 114);
         CHECK.programWrong(1, "f(B(1)) +^");
         CHECK.gives("f(B(1))", 11);
+        // nor does a method that was not told leave anything to the one that gets its number
+        CHECK.anew();
+        CHECK.tell("kind A; layer L; call f(2) best left; method f(x, y) = 1;");
+        CHECK.tellWrong(3, "method f(x: A == 1, y: A == 2) around in L if x < 1 and y < 2 = ^q;");
+        CHECK.tell("method f(x, y: Int) = 2;");
+        CHECK.tellWrong(2, "method ^f(x, y: Int) = 2;");
+        CHECK.gives("f(A(5), 6)", 2);
+        CHECK.ran(2);
+        CHECK.due("WHOLE", CHECK.house().call(0, 5), 0);
+        CHECK.tellWrong(3, "method f(x: Int, y) if x<1 or x<2 or x<3 or x<4 or x<5 or x<6 = 1; method f(x: Int, y) if x<1 or x<2 or x<3 or x<4 or x<5 or x<6 = ^q;");
+        CHECK.tell("method f(x: Int, y) = 3; method f(x: Int, y: Int) = 4;");
+        CHECK.due("WHOLE", CHECK.house().call(0, 5), 0);
         // SPECS and tests that are too many change none of those that are there
         CHECK.anew();
         CHECK.tell("kind A; call h(3) best left; call f(1) best left; method h(x: A, y: A == 1, z: A == 2) if x < 5 = 7;");
@@ -493,6 +505,8 @@ public final class EdgesOfFaceTest {
         CHECK.tellWrong(4, "method h(x, y, z, ^u: Int == 5, v: Int == 6) if x < 1 = 1;");
         CHECK.tellWrong(7, "method f(x) if x<9 or x<8 or x<7 or x<6 or x<5 or x<4 or ^x<3 or x<2 or x<1 = 1;");
         CHECK.tellWrong(7, "method f(x) = #1" + Check.times(149, "+1") + " ^+ 1" + Check.times(200, "+1") + ";");
+        CHECK.gives("h(A(4), A(1), A(2))", 7);
+        CHECK.tell("kind B;");
         CHECK.gives("h(A(4), A(1), A(2))", 7);
         CHECK.faults("h(A(5), A(1), A(2))", 1);
         CHECK.faults("h(A(4), A(1), A(6))", 1);

@@ -366,6 +366,28 @@ public final class EdgesOfKindsTest {
         nearer(0, 4, 6, 3, 3, 3);
         nearer(0, 4, 5, 1, 3, 3);
         nearer(0, 1, 2, 1, 3, 3);
+        // as many cuts as there can be: each == is two
+        String equals = "(x == 1, y == 2, z == 3) if x == 1 and y == 2 and z == 3 and x == y - 1 and y + 1 == z and z == ";
+        CHECK.tell("method f" + equals + "x + 2 = 1; method f" + equals + "x + 3 = 1; method f" + equals + "y + 1 = 1;");
+        nearer(1, 7, 8, 3, 3, 3);
+        nearer(0, 7, 9, 3, 3, 3);
+        nearer(-1, 8, 9, 3, 3, 3);
+        // is as the last of six
+        CHECK.tell("kind B < A; call g(1) best left;");
+        for (int i = 1; i <= 3; i++) {
+            CHECK.tell("method g(x) if x<9 and x<8 and x<7 and x<6 and x<" + i + " and x is " + (i == 2 ? "B" : "A") + " = 1;");
+        }
+        for (int round = 0; round < 2; round++) {
+            nearer(-1, 10, 11, 4, 0, 0);
+            nearer(-1, 11, 12, 4, 0, 0);
+            nearer(1, 10, 11, 3, 0, 0);
+            nearer(-1, 11, 12, 3, 0, 0);
+            nearer(-1, 10, 12, 3, 0, 0);
+            nearer(-1, 10, 12, 4, 0, 0);
+            nearer(0, 10, 11, 1, 0, 0);
+            nearer(0, 11, 12, 1, 0, 0);
+            nearer(0, 10, 12, 1, 0, 0);
+        }
     }
 
     private static void manyThatAsk() {

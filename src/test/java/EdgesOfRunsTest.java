@@ -27,6 +27,8 @@ public final class EdgesOfRunsTest {
         methodsInOneAnother();
         methodsByNext();
         methodsInAround();
+        muchAtOnce();
+        runsThatBroke();
         endsWithValue();
         endsFailed();
         endsWithoutFuel();
@@ -372,6 +374,35 @@ public final class EdgesOfRunsTest {
         CHECK.faults("f(Fault(0))", 4);
     }
 
+    private static void muchAtOnce() {
+        CHECK.sentence("24 methods in one another, each in the midst of much");
+        CHECK.tell("layer L; call f(3) best left; method f(x, y, z) = try try try try with L do if x then 1 < 1 * (1 + 2 * f(x - 1, y, z)) else 1 "
+            + "on a do 0 on a do 0 on a do 0 on a do 0;");
+        CHECK.gives("f(23, 5, 6)", 1);
+        CHECK.due("methods", CHECK.house().told(5), 24);
+        CHECK.gives("f(24, 5, 6)", 0);
+        CHECK.tell("call g(3) sum near; method g(x, y, z) = if x then y + g(x - 1, y, z) * 1 + z * (z + (y - y)) / z else (z / z) * 7;");
+        CHECK.gives("g(23, 2, 3)", 7 + 23 * 5);
+        CHECK.tell("call h(1) best left; method h(x) = let a = 1 then let b = 2 then let c = if x then h(x - 1) else 0 then a + b + c + x;");
+        CHECK.gives("h(23)", 24 * 3 + 23 * 12);
+    }
+
+    private static void runsThatBroke() {
+        DispatchHouse house = CHECK.sentence("A RUN (what was left of others before does not matter)");
+        CHECK.tell("layer L; call f(2) best left; call e(2) best left; method f(x, y) = with L do 1 + 2 * (3 - f(x, y + e(x, y)));"
+            + "method e(x, y) = 1; method e(x == 1, y == 22) = fail 5; method e(x == 2, y == 22) = 1 / 0;");
+        CHECK.tell("call g(1) best left; method g(x) = if x then 1 + 1 * (x - x + g(x - 1)) else 0; method g(x) in L = 1000;");
+        int[] ends = {4, 1, 1};
+        for (int round = 0; round < 15; round++) {
+            int x = round % 3;
+            house.set(2, x == 0 ? 300 + round : 10000);
+            CHECK.program("1 + f(" + x + ", 0)");
+            CHECK.due("run of " + x, house.run(), ends[x]);
+            house.set(2, 10000);
+            CHECK.gives("g(23)", 23);
+        }
+    }
+
     private static void endsWithValue() {
         CHECK.sentence("A RUN ENDS 0 with the value");
         CHECK.tell("kind A;");
@@ -584,6 +615,9 @@ public final class EdgesOfRunsTest {
             text.append("method f(x==").append(i).append(")=x;");
         }
         CHECK.tell(text.toString());
+        for (int i : new int[] {2, 62, 63, 64, 65, 66, 67}) {
+            CHECK.gives("f(" + i + ")", i);
+        }
         CHECK.gives("f(120) + f(1) + f(100) + f(119)", 340);
         CHECK.due("RESULT stays until ran", house.count(5), 0);
         CHECK.due("ran", house.ran(), 8);

@@ -156,7 +156,10 @@ public final class EdgesOfSignsTest {
         for (int i = 0; i < all.length(); i++) {
             for (int j = 0; j < i; j++) {
                 CHECK.anew();
-                CHECK.tell("kind x" + all.charAt(i) + "; kind x" + all.charAt(j) + ";");
+                String one = all.substring(i, i + 1);
+                String other = all.substring(j, j + 1);
+                CHECK.tell("kind x" + one + ";kind x" + other + ";kind abcdefghijk" + one + ";kind abcdefghijk" + other + ";"
+                    + "kind x" + one + "9;kind x" + other + "9;kind abcdefghijk" + one + "9;kind abcdefghijk" + other + "9;");
             }
         }
         String name = "abcdefghijklmnop";
