@@ -7,7 +7,7 @@ import java.util.Map;
 
 /** Texts and programs made by chance (from fixed seeds), of which both houses have to tell the same. */
 public final class AgainstNaiveTest {
-    private static final int WORLDS = 300;
+    private static final int WORLDS = 1000;
 
     private final Map<String, Method> ours = methodsOf(DispatchHouse.class);
     private final Map<String, Method> theirs = methodsOf(NaiveHouse.class);
@@ -103,7 +103,7 @@ public final class AgainstNaiveTest {
         log.add("seed " + seed);
         TextMaker maker = new TextMaker(seed);
         for (int round = 0; round < 3; round++) {
-            String text = seed % 50 == 0 && round == 0 ? maker.large()
+            String text = seed % 50 == 0 && round == 0 ? maker.large() : seed % 4 == 1 && round == 0 ? maker.askers()
                 : maker.world(maker.below(5), 1 + maker.below(2), maker.below(3), maker.below(9));
             if (text.length() > 8000) {
                 return;

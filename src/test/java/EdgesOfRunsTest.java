@@ -6,6 +6,7 @@ public final class EdgesOfRunsTest {
 
     public static void main(String[] args) {
         stepsAsTheyBegin();
+        stepsWhereverTheyAre();
         numbersAndNames();
         valuesOfKinds();
         wrapping();
@@ -51,6 +52,32 @@ public final class EdgesOfRunsTest {
         CHECK.program(program);
         CHECK.house().run();
         CHECK.due("STEPS of " + program, CHECK.house().told(3), want);
+    }
+
+    private static void stepsWhereverTheyAre() {
+        CHECK.sentence("Each NODE is a STEP as it begins (in methods, and only those that begin)");
+        Object[][] all = {{1, "7"}, {1, "-7"}, {3, "1 + 2"}, {3, "1 - 2"}, {3, "1 * 2"}, {3, "1 / 2"}, {3, "1 < 2"}, {3, "1 <= 2"}, {3, "1 == 2"},
+            {2, "1 is A"}, {2, "#1"}, {2, "A(1)"}, {4, "u(1, 2)"}, {3, "let x = 1 then x"}, {3, "if 1 then 2 else 3"}, {2, "with L do 1"},
+            {2, "without L do 1"}, {2, "try 1 on x do 2"}, {4, "try fail 1 on x do x"}, {2, "show 1"}, {9, "1 < 2 + 3 * 4 / 5"}, {9, "1 + 2 * 3 - 4 == 5"},
+            {6, "1 + 2 * 3 is A"}};
+        for (Object[] one : all) {
+            int own = (Integer) one[0];
+            String form = (String) one[1];
+            CHECK.anew();
+            CHECK.tell("kind A; layer L; call u(2) best left; method u(x, y) = 5; call g(1) best left; method g(x) = " + form + ";");
+            CHECK.tell("method g(x: Fault) = if x then 5 else " + form + ";");
+            stepsOf(own, form);
+            stepsOf(own + 2, "if 1 then " + form + " else 0");
+            stepsOf(own + 2, "if 0 then 0 else " + form);
+            stepsOf(3, "if 0 then " + form + " else 5");
+            stepsOf(3, "if 1 then 5 else " + form);
+            stepsOf(own + 2, "5 + (" + form + ")");
+            stepsOf(own + 2, "(" + form + ") * 5");
+            stepsOf(own + 2, "g(1)");
+            stepsOf(2 * own + 5, "g(1) + g(1)");
+            stepsOf(6, "g(Fault(1))");
+            stepsOf(own + 5, "g(Fault(0))");
+        }
     }
 
     private static void stepsAsTheyBegin() {
@@ -393,7 +420,7 @@ public final class EdgesOfRunsTest {
             + "method e(x, y) = 1; method e(x == 1, y == 22) = fail 5; method e(x == 2, y == 22) = 1 / 0;");
         CHECK.tell("call g(1) best left; method g(x) = if x then 1 + 1 * (x - x + g(x - 1)) else 0; method g(x) in L = 1000;");
         int[] ends = {4, 1, 1};
-        for (int round = 0; round < 15; round++) {
+        for (int round = 0; round < 27; round++) {
             int x = round % 3;
             house.set(2, x == 0 ? 300 + round : 10000);
             CHECK.program("1 + f(" + x + ", 0)");

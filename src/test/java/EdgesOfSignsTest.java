@@ -14,6 +14,7 @@ public final class EdgesOfSignsTest {
         restOfNames();
         lengthsOfNames();
         differentNames();
+        longNames();
         numbers();
         words();
         oneDeclaration();
@@ -175,6 +176,23 @@ public final class EdgesOfSignsTest {
         }
         CHECK.anew();
         CHECK.tell("kind a; kind aa; kind aaa; kind aaaaaaaaaaa; kind aaaaaaaaaa; kind aaaaaaaaaaaa;");
+    }
+
+    private static void longNames() {
+        CHECK.sentence("NAMES, at most 16 (as long as can be, wherever they stand)");
+        CHECK.tell("kind abcdefghijklmnoK; kind abcdefghijklmnoJ < abcdefghijklmnoK; layer abcdefghijklmnoL; layer abcdefghijklmnoM;"
+            + "call abcdefghijklmnof(2) best left; call abcdefghijklmnog(1) best left; method abcdefghijklmnog(abcdefghijklmnox) = abcdefghijklmnox;"
+            + "method abcdefghijklmnof(abcdefghijklmnox: abcdefghijklmnoK, abcdefghijklmnoy: abcdefghijklmnoJ) in abcdefghijklmnoL "
+            + "if abcdefghijklmnox is abcdefghijklmnoJ and abcdefghijklmnox < abcdefghijklmnoy = abcdefghijklmnox * 10 + abcdefghijklmnoy;");
+        CHECK.gives("let abcdefghijklmnox = 1 then let abcdefghijklmnoy = 2 then with abcdefghijklmnoL do abcdefghijklmnof("
+            + "abcdefghijklmnoJ(abcdefghijklmnox), abcdefghijklmnoJ(abcdefghijklmnoy)) * (without abcdefghijklmnoM do abcdefghijklmnog(100)) + "
+            + "(try fail abcdefghijklmnoK(3) on abcdefghijklmnoz do abcdefghijklmnoz is abcdefghijklmnoK)", 1201);
+        CHECK.programWrong(3, "let abcdefghijklmnox = 1 then ^abcdefghijklmnoy");
+        CHECK.programWrong(3, "^abcdefghijklmnoh(1)");
+        CHECK.programWrong(3, "with ^abcdefghijklmnoN do 1");
+        CHECK.tellWrong(3, "method abcdefghijklmnog(abcdefghijklmnox) if ^abcdefghijklmnoy < 1 = 1;");
+        CHECK.tellWrong(2, "method abcdefghijklmnof(abcdefghijklmnox, ^abcdefghijklmnox) = 1;");
+        CHECK.tellWrong(3, "kind A < ^abcdefghijklmnoA;");
     }
 
     private static void numbers() {

@@ -101,6 +101,26 @@ final class TextMaker {
         return text.toString();
     }
 
+    /** A call whose methods differ by what they ask alone. */
+    String askers() {
+        String name = "f" + names++;
+        int n = 1 + below(3);
+        calls.add(name);
+        places.add(n);
+        StringBuilder text = new StringBuilder("call " + name + "(" + n + ") best " + oneOf("left each near") + ";\n");
+        List<String> variables = List.of("x", "y", "z").subList(0, n);
+        int methods = 2 + below(4);
+        for (int i = 0; i < methods; i++) {
+            text.append("method ").append(name).append("(");
+            for (int p = 0; p < n; p++) {
+                text.append(p == 0 ? "" : ", ").append(variables.get(p)).append(oneIn(6) ? " == " + number() : "");
+            }
+            int[] left = {1 + below(methods < 4 ? 6 : 3)};
+            text.append(") if ").append(test(variables, left, 3)).append(" = ").append(i).append(";\n");
+        }
+        return text.toString();
+    }
+
     private String kind() {
         String name = "K" + names++;
         StringBuilder text = new StringBuilder("kind " + name);
