@@ -160,9 +160,11 @@ public final class EdgesOfFaceTest {
         for (int i = 1; i <= 409; i++) {
             CHECK.due("feed " + i, house.feed(BLANKS, BLANKS, BLANKS, BLANKS, BLANKS), 20 * i);
         }
-        CHECK.refused("feed to 8200", IndexOutOfBoundsException.class, () -> house.feed(0, 0, 0, 0, 0));
+        CHECK.throwing("feed to 8200", IndexOutOfBoundsException.class, () -> house.feed(0, 0, 0, 0, 0));
+        CHECK.due("bytes", house.count(6), 8180);
         house.end(8173);
-        CHECK.refused("feed to 8193", IndexOutOfBoundsException.class, () -> house.feed(0, 0, 0, 0, 0));
+        CHECK.throwing("feed to 8193", IndexOutOfBoundsException.class, () -> house.feed(0, 0, 0, 0, 0));
+        CHECK.due("bytes", house.count(6), 8173);
         house.end(8172);
         CHECK.due("feed to 8192", house.feed(BLANKS, BLANKS, BLANKS, 0x206B696E, 0x6420413B), 8192);
         CHECK.refused("feed of a full tape", IndexOutOfBoundsException.class, () -> house.feed(0, 0, 0, 0, 0));
@@ -374,8 +376,9 @@ public final class EdgesOfFaceTest {
         DispatchHouse house = CHECK.sentence("Promise 7: IndexOutOfBoundsException: m is not 1 to how many were told");
         CHECK.refused("drop 1 of a new house", IndexOutOfBoundsException.class, () -> house.drop(1) ? 1 : 0);
         CHECK.tell("call f(1) best left; method f(x) = 1; method f(x: Int) = 2;");
+        CHECK.refused("drop 0", IndexOutOfBoundsException.class, () -> house.drop(0) ? 1 : 0);
         for (int m : new int[] {0, -1, 3, 4, 120, 121, 122, Integer.MIN_VALUE, Integer.MAX_VALUE}) {
-            CHECK.refused("drop " + m, IndexOutOfBoundsException.class, () -> house.drop(m) ? 1 : 0);
+            CHECK.throwing("drop " + m, IndexOutOfBoundsException.class, () -> house.drop(m) ? 1 : 0);
         }
         CHECK.tellWrong(3, "method f(x: Fault) = 1; method f(x == 1) = ^y;");
         CHECK.refused("drop 3 behind a wrong text", IndexOutOfBoundsException.class, () -> house.drop(3) ? 1 : 0);
@@ -405,8 +408,11 @@ public final class EdgesOfFaceTest {
         house.set(0, 2);
         house.set(1, 2);
         house.set(2, 77);
+        CHECK.refused("set 0 4", IllegalArgumentException.class, () -> house.set(0, 4));
+        CHECK.refused("set 1 3", IllegalArgumentException.class, () -> house.set(1, 3));
+        CHECK.refused("set 2 0", IllegalArgumentException.class, () -> house.set(2, 0));
         for (int[] one : wrong) {
-            CHECK.refused("set " + one[0] + " " + one[1], IllegalArgumentException.class, () -> house.set(one[0], one[1]));
+            CHECK.throwing("set " + one[0] + " " + one[1], IllegalArgumentException.class, () -> house.set(one[0], one[1]));
         }
         CHECK.due("CHOOSING", house.set(0, 0), 2);
         CHECK.due("WAY", house.set(1, 0), 2);
@@ -531,25 +537,23 @@ public final class EdgesOfFaceTest {
     }
 
     private static void thrownChangesNothing() {
-        DispatchHouse house = CHECK.sentence("what throws changes nothing");
-        CHECK.tell("kind A; layer L; call f(1) best left; method f(x) = show x; method f(x: A) = next;");
-        CHECK.gives("f(A(5)) + f(6)", 11);
-        house.ran();
-        CHECK.feed("kind B;");
-        CHECK.refused("end", IllegalArgumentException.class, () -> house.end(8));
-        CHECK.refused("drop", IndexOutOfBoundsException.class, () -> house.drop(3) ? 1 : 0);
-        CHECK.refused("set", IllegalArgumentException.class, () -> house.set(0, 4));
-        CHECK.refused("count", IllegalArgumentException.class, () -> house.count(7));
-        CHECK.refused("below", IndexOutOfBoundsException.class, () -> house.below(4, 0) ? 1 : 0);
-        CHECK.refused("row", IllegalArgumentException.class, () -> house.row(0, 3, 0));
-        CHECK.refused("nearer", IllegalArgumentException.class, () -> house.nearer(1, 2, 1, 0, 0));
-        CHECK.refused("call", IllegalArgumentException.class, () -> house.call(0, 9));
-        CHECK.refused("told", IllegalArgumentException.class, () -> house.told(7));
-        CHECK.refused("shown", IndexOutOfBoundsException.class, () -> house.shown(2));
-        CHECK.refused("word", IndexOutOfBoundsException.class, () -> house.word(6));
-        CHECK.due("tell of the TAPE", house.tell(), -1);
-        CHECK.due("kinds", house.count(0), 5);
-        CHECK.due("run of the PROGRAM", house.run(), 0);
-        CHECK.due("its value", house.told(2), 11);
+        CHECK.sentence("what throws changes nothing");
+        String[] names = {"end", "drop", "set", "count", "below", "row", "nearer", "call", "told", "shown", "word"};
+        for (int i = 0; i < names.length; i++) {
+            DispatchHouse house = CHECK.anew();
+            CHECK.tell("kind A; layer L; call f(1) best left; method f(x) = show x; method f(x: A) = next;");
+            CHECK.gives("f(A(5)) + f(6)", 11);
+            house.ran();
+            CHECK.feed("kind B;");
+            Check.Ask[] asks = {() -> house.end(8), () -> house.drop(3) ? 1 : 0, () -> house.set(0, 4), () -> house.count(7),
+                () -> house.below(4, 0) ? 1 : 0, () -> house.row(0, 3, 0), () -> house.nearer(1, 2, 1, 0, 0), () -> house.call(0, 9),
+                () -> house.told(7), () -> house.shown(2), () -> house.word(6)};
+            boolean isIndex = "drop below shown word".contains(names[i]);
+            CHECK.refused(names[i], isIndex ? IndexOutOfBoundsException.class : IllegalArgumentException.class, asks[i]);
+            CHECK.due("tell of the TAPE", house.tell(), -1);
+            CHECK.due("kinds", house.count(0), 5);
+            CHECK.due("run of the PROGRAM", house.run(), 0);
+            CHECK.due("its value", house.told(2), 11);
+        }
     }
 }

@@ -261,16 +261,19 @@ public final class EdgesOfKindsTest {
     }
 
     private static void rowThrows() {
-        DispatchHouse house = CHECK.sentence("Promise 11: IndexOutOfBoundsException: k is none, i is below 0. IllegalArgumentException: way");
+        CHECK.sentence("Promise 11: IndexOutOfBoundsException: k is none, i is below 0. IllegalArgumentException: way");
         int[][] none = {{-1, 0, 0}, {3, 0, 0}, {Integer.MAX_VALUE, 0, 0}, {Integer.MIN_VALUE, 0, 0}, {0, 0, -1}, {0, 0, Integer.MIN_VALUE},
             {3, 3, 0}, {0, -1, -1}, {-1, 9, -9}};
         for (int[] one : none) {
-            CHECK.refused("row " + one[0] + " " + one[1] + " " + one[2], IndexOutOfBoundsException.class, () -> house.row(one[0], one[1], one[2]));
+            DispatchHouse fresh = CHECK.anew();
+            CHECK.refused("row " + one[0] + " " + one[1] + " " + one[2], IndexOutOfBoundsException.class, () -> fresh.row(one[0], one[1], one[2]));
         }
         for (int way : new int[] {-1, 3, 4, Integer.MIN_VALUE, Integer.MAX_VALUE}) {
-            CHECK.refused("row by way " + way, IllegalArgumentException.class, () -> house.row(0, way, 0));
-            CHECK.refused("row by way " + way + " behind its end", IllegalArgumentException.class, () -> house.row(2, way, 99));
+            DispatchHouse fresh = CHECK.anew();
+            CHECK.refused("row by way " + way, IllegalArgumentException.class, () -> fresh.row(0, way, 0));
+            CHECK.refused("row by way " + way + " behind its end", IllegalArgumentException.class, () -> fresh.row(2, way, 99));
         }
+        DispatchHouse house = CHECK.anew();
         CHECK.due("row by way 2", house.row(2, 2, 0), 2);
         CHECK.tell("kind A;");
         CHECK.due("row of 3", house.row(3, 0, 0), 3);
@@ -534,9 +537,10 @@ public final class EdgesOfKindsTest {
         DispatchHouse house = CHECK.sentence("Promise 12: IndexOutOfBoundsException: a method that is none or gone");
         CHECK.throwing("nearer in a new house", IndexOutOfBoundsException.class, () -> house.nearer(1, 1, 0, 0, 0));
         CHECK.tell("call f(1) best left; method f(x) = 1; method f(x: Int) = 1; method f(x: Int == 1) = 1;");
+        CHECK.refused("nearer 4 1", IndexOutOfBoundsException.class, () -> house.nearer(4, 1, 1, 0, 0));
         for (int m : new int[] {0, -1, 4, 120, 121, 122, Integer.MAX_VALUE, Integer.MIN_VALUE}) {
-            CHECK.refused("nearer " + m + " 1", IndexOutOfBoundsException.class, () -> house.nearer(m, 1, 1, 0, 0));
-            CHECK.refused("nearer 1 " + m, IndexOutOfBoundsException.class, () -> house.nearer(1, m, 1, 0, 0));
+            CHECK.throwing("nearer " + m + " 1", IndexOutOfBoundsException.class, () -> house.nearer(m, 1, 1, 0, 0));
+            CHECK.throwing("nearer 1 " + m, IndexOutOfBoundsException.class, () -> house.nearer(1, m, 1, 0, 0));
         }
         CHECK.due("nearer 3 2", house.nearer(3, 2, 1, 0, 0), -1);
         house.drop(3);
@@ -550,10 +554,11 @@ public final class EdgesOfKindsTest {
     private static void nearerNoKind() {
         DispatchHouse house = CHECK.sentence("Promise 12: IndexOutOfBoundsException: a kind that is none");
         CHECK.tell("call f(3) best left; method f(x, y, z) = 1; method f(x, y, z: Int) = 1;");
+        CHECK.refused("nearer for 3", IndexOutOfBoundsException.class, () -> house.nearer(1, 2, 1, 1, 3));
         for (int k : new int[] {-1, 3, 24, Integer.MAX_VALUE, Integer.MIN_VALUE}) {
-            CHECK.refused("nearer for " + k, IndexOutOfBoundsException.class, () -> house.nearer(1, 2, k, 1, 1));
-            CHECK.refused("nearer for " + k, IndexOutOfBoundsException.class, () -> house.nearer(1, 2, 1, k, 1));
-            CHECK.refused("nearer for " + k, IndexOutOfBoundsException.class, () -> house.nearer(1, 2, 1, 1, k));
+            CHECK.throwing("nearer for " + k, IndexOutOfBoundsException.class, () -> house.nearer(1, 2, k, 1, 1));
+            CHECK.throwing("nearer for " + k, IndexOutOfBoundsException.class, () -> house.nearer(1, 2, 1, k, 1));
+            CHECK.throwing("nearer for " + k, IndexOutOfBoundsException.class, () -> house.nearer(1, 2, 1, 1, k));
         }
         CHECK.tell("kind A;");
         CHECK.due("nearer for 3", house.nearer(1, 2, 3, 3, 1), 1);

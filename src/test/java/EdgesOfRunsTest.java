@@ -678,8 +678,9 @@ public final class EdgesOfRunsTest {
         CHECK.refused("word before ran", IndexOutOfBoundsException.class, () -> house.word(0));
         house.ran();
         CHECK.due("word 3", house.word(3), 0x0100000000000000L);
+        CHECK.refused("word 4", IndexOutOfBoundsException.class, () -> house.word(4));
         for (int i : new int[] {4, 5, 12, 1024, -1, -8, Integer.MAX_VALUE, Integer.MIN_VALUE}) {
-            CHECK.refused("word " + i, IndexOutOfBoundsException.class, () -> house.word(i));
+            CHECK.throwing("word " + i, IndexOutOfBoundsException.class, () -> house.word(i));
         }
         CHECK.gives("1", 1);
         house.ran();

@@ -260,6 +260,8 @@ public final class EdgesOfSignsTest {
             if (java.util.Arrays.asList(fine).contains(text)) {
                 continue;
             }
+            CHECK.anew();
+            CHECK.tell("kind A; layer L; call f ( 2 ) best left;");
             for (String behind : new String[] {"^", " \n ^", "$ more^"}) {
                 if (isText) {
                     CHECK.tellWrong(1, text + behind);
@@ -272,17 +274,11 @@ public final class EdgesOfSignsTest {
 
     private static void endsTooEarly() {
         CHECK.sentence("the text's length, if it ends too early");
-        CHECK.tell("kind A; layer L; call f ( 2 ) best left;");
         prefixes(true, "kind B < A , Int bare ;");
         prefixes(true, "call g ( 1 ) best left ;");
-        CHECK.anew();
         prefixes(true, "layer M ;");
-        CHECK.tell("kind A; layer L; call f ( 2 ) best left;");
         prefixes(true, "method f ( x : A == - 1 , y ) around in L if not ( x is A or y + 1 < - 2 ) and y == y = x + y ;");
-        CHECK.anew();
         prefixes(false, "let x = 1 then if x then 2 else 3", "let x = 1 then x");
-        CHECK.anew();
-        CHECK.tell("kind A; layer L; call f ( 2 ) best left;");
         prefixes(false, "with L do without L do try fail 1 on x do show f ( x , # x )", "with L do without L do try fail 1 on x do show f");
         prefixes(false, "( 1 + 2 * - 3 ) < A ( 4 )", "( 1 + 2 * - 3 )", "( 1 + 2 * - 3 ) < A");
     }
