@@ -1815,12 +1815,11 @@ public final class DispatchHouse {
 
     /** Which of two methods that fit is nearer. */
     private static final class Nearness {
-        private static final int ROOM = 1024;
-
         private final World world;
         private final Space space;
-        // what two methods and their is-tests settle is worked out once: the pair, those tests and the answer in an int
-        private final int[] settled = new int[ROOM];
+        // a square of pairs of methods: what a pair and its is-tests settle is worked out once, both are kept in an int
+        private int side = 8;
+        private int[] settled = new int[side * side];
 
         Nearness(World world) {
             this.world = world;
@@ -1835,7 +1834,7 @@ public final class DispatchHouse {
         int compare(int m, int n, int[] at) {
             Methods methods = world.methods;
             if (methods.sameKinds(m, n)) {
-                return whoAsksMore(m, n, at);
+                return m < n ? whoAsksMore(m, n, at) : -whoAsksMore(n, m, at);
             }
             int c = methods.call[m];
             int mBelow = 1;
@@ -1860,9 +1859,11 @@ public final class DispatchHouse {
             if (world.methods.asked(m) + world.methods.asked(n) == 0) {
                 return 0;
             }
-            int key = ((m << 7 | n) << MOST_TESTS | isTests(m, at)) << MOST_TESTS | isTests(n, at);
-            int spot = (key ^ key >>> 9 ^ key >>> 17) & ROOM - 1;
-            if (settled[spot] >>> 2 == key) {
+            makeRoomForAll();
+            int spot = m * side + n;
+            // the bit in front tells it from a spot where nothing is kept
+            int tests = (1 << MOST_TESTS | isTests(m, at)) << MOST_TESTS | isTests(n, at);
+            if (settled[spot] >>> 2 == tests) {
                 return (settled[spot] & 3) - 1;
             }
             space.empty();
@@ -1878,8 +1879,17 @@ public final class DispatchHouse {
                 nAlone = nAlone || takenByN && !takenByM;
             }
             int answer = mAlone == nAlone ? 0 : nAlone ? -1 : 1;
-            settled[spot] = key << 2 | answer + 1;
+            settled[spot] = tests << 2 | answer + 1;
             return answer;
+        }
+
+        private void makeRoomForAll() {
+            if (world.methods.told >= side) {
+                for (int turn = 0; turn < MOST_METHODS && world.methods.told >= side; turn++) {
+                    side *= 2;
+                }
+                settled = new int[side * side];
+            }
         }
 
         private int isTests(int m, int[] at) {
@@ -2247,6 +2257,8 @@ public final class DispatchHouse {
     private static final class Chooser {
         private static final int ROW_ROOM = 128;
         private static final int TAKEN = -1;
+        private static final int BITS_OF_KIND = 5;
+        private static final int NOTES = 5;
 
         private final World world;
         private final Nearness nearness;
@@ -2257,9 +2269,13 @@ public final class DispatchHouse {
         private final int[] from = new int[(MOST_DEPTH + 2) * ROLES];
         private final int[] size = new int[(MOST_DEPTH + 2) * ROLES];
         private final boolean[] several = new boolean[(MOST_DEPTH + 2) * ROLES];
+        // what the rows at each home were laid for (the methods tell the call, too): who chooses the same again finds them
+        private final long[] notes = new long[(MOST_DEPTH + 2) * NOTES];
         private final int[] at = new int[MOST_PLACES];
         private final int[] applying = new int[MOST_METHODS];
         private int applyingCount;
+        private long applyingFirst;
+        private long applyingSecond;
         private final int[] group = new int[MOST_METHODS];
         private final int[] nearerOnes = new int[MOST_METHODS];
 
@@ -2290,6 +2306,9 @@ public final class DispatchHouse {
             if (!gatherApplying(c, given, layers)) {
                 return false;
             }
+            if (isLaid(c, home, layers)) {
+                return true;
+            }
             int filled = 0;
             for (int role = 0; role < ROLES; role++) {
                 int row = home * ROLES + role;
@@ -2312,15 +2331,35 @@ public final class DispatchHouse {
             return true;
         }
 
+        private boolean isLaid(int c, int home, long layers) {
+            long kinds = 0L;
+            for (int p = 0; p < world.places[c]; p++) {
+                kinds = kinds << BITS_OF_KIND | at[p];
+            }
+            int note = home * NOTES;
+            boolean isSame = notes[note] == world.version && notes[note + 1] == kinds && notes[note + 2] == layers
+                    && notes[note + 3] == applyingFirst && notes[note + 4] == applyingSecond;
+            notes[note] = world.version;
+            notes[note + 1] = kinds;
+            notes[note + 2] = layers;
+            notes[note + 3] = applyingFirst;
+            notes[note + 4] = applyingSecond;
+            return isSame;
+        }
+
         private boolean gatherApplying(int c, long[] given, long layers) {
             int all = world.listFor(c, at, applying);
             boolean isPlain = false;
             applyingCount = 0;
+            applyingFirst = 0L;
+            applyingSecond = 0L;
             for (int i = 0; i < all; i++) {
                 int m = applying[i];
                 if (isOn(world.methods.layer[m], layers) && takes(m, given)) {
                     applying[applyingCount] = m;
                     applyingCount++;
+                    applyingFirst |= m <= 64 ? 1L << (m - 1) : 0L;
+                    applyingSecond |= m <= 64 ? 0L : 1L << (m - 65);
                     isPlain = isPlain || world.methods.role[m] == PLAIN;
                 }
             }

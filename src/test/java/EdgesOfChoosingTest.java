@@ -31,6 +31,8 @@ public final class EdgesOfChoosingTest {
         nextGoesOn();
         nextWithArguments();
         nothingChosenAnew();
+        eachCallByItsOwn();
+        manyAlike();
         CHECK.done();
     }
 
@@ -440,5 +442,53 @@ public final class EdgesOfChoosingTest {
         CHECK.gives("with L do f(1)", 1011);
         CHECK.tell("call g(1) best left; method g(x) = f(1); method g(x: Int) around = with L do next;");
         CHECK.gives("g(1)", 1011);
+    }
+
+    private static void eachCallByItsOwn() {
+        CHECK.sentence("ROW of methods: those that APPLY (of each CALL by its own kinds, numbers and layers)");
+        StringBuilder kinds = new StringBuilder("kind A; kind B; kind C < A, B;");
+        for (int k = 6; k <= 20; k++) {
+            kinds.append("kind K").append(k).append(';');
+        }
+        CHECK.tell(kinds + "kind D < B, A;");
+        CHECK.tell("call f(1) best left; method f(x: A) = 1; method f(x: B) = 2;");
+        CHECK.gives("f(C(0)) * 1000 + f(D(0)) * 100 + f(C(0)) * 10 + f(D(0))", 1212);
+        CHECK.tell("call g(2) best left; method g(x, y: A) = 1; method g(x, y: B) = 2;");
+        CHECK.gives("g(1, C(0)) * 10 + g(1, D(0))", 12);
+        CHECK.gives("g(1, D(0)) * 10 + g(1, C(0))", 21);
+        CHECK.gives("g(C(0), D(0)) * 10 + g(D(0), C(0))", 21);
+        CHECK.tell("call h(1) best left; method h(x) = 1; method h(x) if 0 < x = 2; method h(x == 5) = 3;");
+        CHECK.gives("h(0) * 1000 + h(1) * 100 + h(5) * 10 + h(0)", 1231);
+        CHECK.tell("layer L; layer M; call s(1) best left; method s(x) = 1; method s(x) in L = 2; method s(x) in M = 3;");
+        CHECK.gives("(with L do with M do s(0)) * 10 + (with M do with L do s(0))", 32);
+        // methods behind the 64th
+        StringBuilder many = new StringBuilder("call z(1) best left;");
+        for (int m = CHECK.house().count(2) + 1; m <= 64; m++) {
+            many.append("method z(x == ").append(m).append(") = 1;");
+        }
+        CHECK.tell(many + "call t(1) best left; method t(x) = 1; method t(x) if 0 < x = 2; method t(x == 5) = 3;");
+        CHECK.due("methods", CHECK.house().count(2), 67);
+        CHECK.gives("t(5) * 1000 + t(1) * 100 + t(0) * 10 + t(5)", 3213);
+    }
+
+    private static void manyAlike() {
+        DispatchHouse house = CHECK.sentence("the one to which none of those left is NEARER, again and again (of a hundred, in the midst of much)");
+        StringBuilder text = new StringBuilder("call f(1) best left;");
+        for (int i = 0; i < 98; i++) {
+            text.append("method f(x)if x<").append(500 - i).append("=next;");
+        }
+        CHECK.tell(text + "method f(x) = 7; method f(x) if x < 9 = try f(x) on e do f(x);");
+        house.set(2, 100000);
+        CHECK.program("f(0)");
+        CHECK.due("a run without end", house.run(), 4);
+        CHECK.due("its STEPS", house.told(3), 100000);
+        CHECK.due("its LOOKS", house.told(6) % 100, 0);
+        // 478 to 500 and the last one are 24; one more would be too many in one another
+        CHECK.gives("f(477)", 7);
+        CHECK.due("methods that began", house.told(5), 24);
+        CHECK.due("RAN", house.ran(), 48);
+        CHECK.due("the nearest is that for 478", house.word(0), 23L << 48 | 22L << 32 | 21L << 16 | 20);
+        CHECK.due("the last one", house.word(46), 99L << 48);
+        CHECK.faults("f(476)", 4);
     }
 }
