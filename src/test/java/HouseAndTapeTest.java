@@ -9,6 +9,7 @@ public final class HouseAndTapeTest {
         settings();
         counts();
         clearing();
+        exampleOfReadme();
         CHECK.done();
     }
 
@@ -136,5 +137,17 @@ public final class HouseAndTapeTest {
         CHECK.gives("f(6, 7)", 42);
         CHECK.ran(1);
         CHECK.programWrong(3, "with ^L do 1");
+    }
+
+    private static void exampleOfReadme() {
+        DispatchHouse house = CHECK.anew();
+        CHECK.tell("kind A; call f(1) best left; method f(x) = 1; method f(x: A) = next + 10;");
+        CHECK.programWrong(1, "f(A(0)) + ^show f(0)");
+        CHECK.gives("f(A(0)) + (show f(0))", 12);
+        CHECK.showed(1);
+        CHECK.ran(2, 1, 1);
+        CHECK.due("its bytes", house.word(0), 0x0002000100010000L);
+        CHECK.due("whole", house.call(0, 5), 0);
+        CHECK.due("nearer", house.nearer(1, 2, 3, 0, 0), 1);
     }
 }
